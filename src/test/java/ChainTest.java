@@ -1,0 +1,272 @@
+/** Promises 35 to 40: sines, sides carried over triangles, the best chain, and chains that are told. */
+public final class ChainTest {
+    private static final int SIXTY = 2160000;
+
+    public static void main(String[] args) {
+        sines();
+        carrying();
+        spread();
+        unable();
+        longest();
+        order();
+        roundAbout();
+        manyWell();
+        closing();
+        checking();
+        Check.end();
+    }
+
+    private static void sines() {
+        GreatArc x = new GreatArc();
+        Check.due(35, "-1", x.sine(-1), -1);
+        Check.due(35, "0", x.sine(0), 0);
+        Check.due(35, "9 ticks are 0 seconds", x.sine(9), 0);
+        // 4,000,000 * 1 * 647,999 by 524,879,352,001 is 4.9
+        Check.due(35, "1 second", x.sine(10), 4);
+        Check.due(35, "19 ticks are 1 second", x.sine(19), 4);
+        Check.due(35, "30 degrees", x.sine(1080000), 500000);
+        Check.due(35, "90 degrees", x.sine(3240000), 1000000);
+        Check.due(35, "150 degrees", x.sine(5400000), 500000);
+        Check.due(35, "a second less than HALF", x.sine(6479990), 4);
+        Check.due(35, "HALF", x.sine(6480000), 0);
+        Check.due(35, "beyond", x.sine(6480001), -1);
+        for (int ticks = 0; ticks <= 6480000; ticks += 9973) {
+            long u = ticks / 10;
+            long w = u * (648000 - u);
+            Check.due(35, "sine of " + ticks, x.sine(ticks), 4000000 * w / (524880000000L - w));
+        }
+    }
+
+    /** A triangle of the marks with one reading for each angle. */
+    private static int triangle(GreatArc x, int[] marks, int... means) {
+        int[] a = new int[3];
+        for (int i = 0; i < 3; i++) {
+            a[i] = x.angle(marks[i], marks[(i + 1) % 3], marks[(i + 2) % 3]);
+            Check.read(x, a[i], means[i]);
+        }
+        return x.triangle(a[0], a[1], a[2], 0);
+    }
+
+    private static GreatArc withBase(int marks, int length) {
+        GreatArc x = Check.room(marks);
+        x.base(0, 1, 0);
+        x.bar(0, length, 15, 0);
+        return x;
+    }
+
+    private static int[] of(int... marks) {
+        return marks;
+    }
+
+    private static void links(GreatArc x, int... links) {
+        for (int i = 0; i < links.length; i++) {
+            Check.due(37, "link " + i, x.link(i), links[i]);
+        }
+        Check.due(37, "behind the last", x.link(links.length), -1);
+        Check.due(37, "ahead of the first", x.link(-1), -1);
+    }
+
+    private static void carrying() {
+        GreatArc x = withBase(4, 10000);
+        Check.refused(36, x, "no base", x.chain(1, 0, 1), 1);
+        Check.refused(36, x, "no base", x.chain(-1, 0, 1), 1);
+        Check.refused(36, x, "no mark", x.chain(0, 0, 4), 1);
+        Check.refused(36, x, "no mark", x.chain(0, -1, 0), 1);
+        Check.refused(36, x, "one mark twice", x.chain(0, 2, 2), 1);
+        Check.refused(36, x, "no chain", x.chain(0, 1, 2), 5);
+        Check.due(38, "ahead of any", x.side(true), -1);
+        Check.told(36, x, "the base itself", x.chain(0, 1, 0), 2);
+        links(x);
+        Check.due(38, "least", x.side(false), 9999);
+        Check.due(38, "most", x.side(true), 10001);
+        triangle(x, of(0, 1, 2), 3240000, 1080000, SIXTY);
+        // side 1-2 lies opposite the right angle, the base opposite the one with the sine of 864,864
+        Check.told(36, x, "chain", x.chain(0, 1, 2), 11564 - 11561);
+        Check.due(38, "9,999,000,000 by 864,864 downwards", x.side(false), 11561);
+        Check.due(38, "10,001,000,000 by 864,864 upwards", x.side(true), 11564);
+        links(x, 0);
+        Check.told(36, x, "chain", x.chain(0, 2, 0), 5782 - 5780);
+        Check.due(38, "4,999,500,000 by 864,864", x.side(false), 5780);
+        Check.due(38, "5,000,500,000 by 864,864", x.side(true), 5782);
+        Check.refused(36, x, "to a mark of no triangle", x.chain(0, 2, 3), 5);
+        Check.due(38, "the latest that told a number", x.side(true), 5782);
+        triangle(x, of(3, 2, 1), SIXTY, SIXTY, SIXTY);
+        Check.told(36, x, "over two", x.chain(0, 2, 3), 3);
+        links(x, 0, 1);
+        Check.due(38, "least", x.side(false), 11561);
+        Check.rule(x, "least 1080001");
+        Check.refused(36, x, "triangle 0 isn't well", x.chain(0, 2, 3), 5);
+        links(x, 0, 1);
+    }
+
+    private static void spread() {
+        GreatArc x = withBase(3, 10000);
+        triangle(x, of(0, 1, 2), 3240000 - 90000, 1080000, SIXTY);
+        Check.read(x, 0, 3240000 + 180000);
+        Check.read(x, 2, SIXTY + 36009);
+        int sharp = x.sine(SIXTY);
+        int blunt = x.sine(SIXTY + 36000);
+        int low = x.sine(3240000 + 180000);
+        // from 87.5 to 95 degrees: the most is at 90, the least at 95
+        x.chain(0, 1, 2);
+        Check.due(38, "least", x.side(false), 9999L * low / blunt);
+        Check.due(38, "most", x.side(true), (10001L * 1000000 + sharp - 1) / sharp);
+        x.read(0, Check.bits(3240000 - 360000), 3, 0);
+        x.chain(0, 1, 2);
+        Check.due(38, "from 80 degrees on", x.side(false), 9999L * x.sine(3240000 - 360000) / blunt);
+        x.strike(x.count(2) - 1, 0, true);
+        x.chain(0, 1, 2);
+        Check.due(38, "of kept ones alone", x.side(false), 9999L * low / blunt);
+        x.bar(0, 5000, 15, 0);
+        x.base(1, 0, 1);
+        x.bar(1, 15003, 15, 0);
+        // 14,998 .. 15,002 and 15,002 .. 15,004
+        Check.told(36, x, "joined", x.chain(1, 0, 1), 0);
+        Check.due(38, "joined", x.side(false), 15002);
+    }
+
+    private static void unable() {
+        for (int i = 0; i < 6; i++) {
+            GreatArc x = withBase(3, 10000);
+            int[] told = {36000, 6408000, 36000};
+            int[][] odd = {{36000, 36000}, {35999, 36000}, {36000, 35999}, {6444000, 36000}, {6444001, 36000}, {0, 36000}};
+            triangle(x, of(0, 1, 2), told);
+            Check.read(x, i == 3 || i == 4 ? 1 : 0, odd[i][0]);
+            Check.read(x, 2, odd[i][1]);
+            boolean able = i == 0 || i == 3;
+            Check.due(36, "edge " + i, x.chain(0, 1, 2) >= 0, able);
+            Check.due(36, "trouble of edge " + i, x.trouble(), able ? 0 : 5);
+            Check.rule(x, "close 9999999");
+            Check.due(40, "edge " + i, x.check(0, 1, 2, 0, -1, 0, 0, 0, 0), able ? 0 : 1);
+        }
+    }
+
+    private static void longest() {
+        GreatArc x = withBase(5, 100000);
+        // the base opposite the 1 degree, carried to the side opposite 89: times 56.3 each
+        triangle(x, of(2, 0, 1), 36000, 3204000, 3240000);
+        triangle(x, of(3, 0, 2), 36000, 3204000, 3240000);
+        triangle(x, of(4, 0, 3), 36000, 3204000, 3240000);
+        // 5,631,000 after one, 317,000,000 after two; beyond 1,000,000,000 after three
+        Check.due(36, "one", x.chain(0, 0, 2) > 0, true);
+        Check.due(36, "two", x.chain(0, 0, 3) > 0, true);
+        Check.due(38, "two", x.side(true) > 300000000, true);
+        Check.refused(36, x, "three", x.chain(0, 0, 4), 5);
+        Check.rule(x, "close 9999999");
+        Check.told(40, x, "whatever the lengths", x.check(0, 0, 4, 0, 1, 2, -1, 0, 0), 0);
+    }
+
+    private static void order() {
+        GreatArc x = withBase(4, 10000);
+        triangle(x, of(0, 1, 3), SIXTY, SIXTY, SIXTY);
+        triangle(x, of(1, 2, 3), SIXTY, SIXTY, SIXTY);
+        Check.told(36, x, "over 3", x.chain(0, 1, 2), 2);
+        links(x, 0, 1);
+        triangle(x, of(2, 0, 1), SIXTY, SIXTY, SIXTY);
+        Check.told(36, x, "as good with fewer", x.chain(0, 1, 2), 2);
+        links(x, 2);
+        triangle(x, of(0, 1, 2), SIXTY, SIXTY, SIXTY);
+        Check.told(36, x, "as good with the lesser", x.chain(0, 1, 2), 2);
+        links(x, 2);
+        // spoil them: then the two over 3 are better, and they may begin at 0 alone
+        Check.read(x, 6, SIXTY + 400);
+        Check.read(x, 9, SIXTY + 400);
+        Check.told(36, x, "the better span though longer", x.chain(0, 1, 2), 2);
+        links(x, 0, 1);
+        Check.told(36, x, "the base itself is best", x.chain(0, 0, 1), 2);
+        links(x);
+    }
+
+    /** The way back to the base's own side may be shorter, and then its span less. */
+    private static void roundAbout() {
+        GreatArc x = withBase(3, 100000);
+        for (int i = 0; i < 9; i++) {
+            x.bar(0, 100000, 15, 0);
+        }
+        triangle(x, of(0, 1, 2), 1080000, 2160000, 3240000);
+        triangle(x, of(0, 1, 2), 2160000, 3240000, 1080000);
+        // 20 wide; to 1-2 by 500,000 by 1,000,000, and back by 500,000 by 864,864
+        Check.told(36, x, "over two triangles", x.chain(0, 0, 1), 7);
+        links(x, 0, 1);
+        long least = 999990L * 500000 / 1000000;
+        long most = (1000010L * 500000 + 999999) / 1000000;
+        Check.due(38, "least", x.side(false), least * 500000 / 864864);
+        Check.due(38, "most", x.side(true), (most * 500000 + 864863) / 864864);
+    }
+
+    private static void manyWell() {
+        GreatArc x = withBase(3, 10000);
+        for (int t = 0; t < 8; t++) {
+            triangle(x, of(0, 1, 2), SIXTY, SIXTY, SIXTY);
+        }
+        Check.told(36, x, "eight are well", x.chain(0, 1, 2), 2);
+        triangle(x, of(0, 1, 2), 35000, 35000, 35000);
+        Check.refused(36, x, "nine, though one carries nothing", x.chain(0, 1, 2), 7);
+        Check.refused(36, x, "and for the base's own side", x.chain(0, 0, 1), 7);
+        x.base(1, 2, 0);
+        Check.refused(39, x, "close", x.close(0, 1), 7);
+        Check.rule(x, "least 35001");
+        Check.told(36, x, "eight again", x.chain(0, 1, 2), 2);
+    }
+
+    private static void closing() {
+        GreatArc x = withBase(4, 10000);
+        x.base(1, 0, 1);
+        x.bar(1, 10000, 15, 0);
+        x.base(2, 1, 0);
+        x.base(2, 3, 0);
+        Check.refused(39, x, "no base", x.close(0, 4), 1);
+        Check.refused(39, x, "no base", x.close(-1, 0), 1);
+        Check.refused(39, x, "the same", x.close(0, 0), 1);
+        Check.refused(39, x, "the same marks", x.close(0, 1), 1);
+        Check.refused(39, x, "no chain", x.close(0, 2), 5);
+        triangle(x, of(0, 1, 2), SIXTY, SIXTY, SIXTY);
+        Check.told(39, x, "9,999 to 0", x.close(0, 2), 9999);
+        links(x, 0);
+        Check.due(38, "side", x.side(true), 10001);
+        x.bar(2, 9990, 15, 0);
+        Check.told(39, x, "9,999 to 9,991", x.close(0, 2), 8);
+        x.bar(2, 1000, 15, 0);
+        Check.told(39, x, "10,001 to 10,988", x.close(0, 2), 987);
+        Check.told(39, x, "back", x.close(2, 0), 987);
+        Check.due(38, "side", x.side(false), 10988);
+        x.base(1, 2, 1);
+        x.bar(4, 10000, 15, 0);
+        // torn now: from 9,999 to 10,992
+        Check.told(39, x, "they meet", x.close(0, 2), 0);
+        Check.refused(39, x, "none to 3", x.close(0, 3), 5);
+    }
+
+    private static void checking() {
+        GreatArc x = withBase(5, 10000);
+        int t0 = triangle(x, of(0, 1, 2), SIXTY, SIXTY, SIXTY);
+        int t1 = triangle(x, of(1, 2, 3), SIXTY, SIXTY, SIXTY);
+        int t2 = triangle(x, of(2, 3, 4), SIXTY, SIXTY, SIXTY + 101);
+        int t3 = triangle(x, of(0, 1, 2), SIXTY, SIXTY, SIXTY);
+        int t4 = triangle(x, of(2, 3, 4), SIXTY - 50, SIXTY - 50, SIXTY);
+        Check.refused(40, x, "no base", x.check(1, 0, 1, 0, -1, 0, 0, 0, 0), 1);
+        Check.refused(40, x, "no mark", x.check(0, 5, 1, 0, -1, 0, 0, 0, 0), 1);
+        Check.refused(40, x, "one mark twice", x.check(0, 1, 1, 0, -1, 0, 0, 0, 0), 1);
+        Check.refused(40, x, "no triangle", x.check(0, 0, 2, 0, 5, -1, 0, 0, 0), 1);
+        Check.refused(40, x, "no triangle", x.check(0, 0, 2, -2, -1, 0, 0, 0, 0), 1);
+        Check.refused(40, x, "none at all", x.check(0, 0, 2, -1, 0, 0, 0, 0, 0), 1);
+        Check.told(40, x, "one", x.check(0, 2, 0, t0, -1, 9, 9, 9, 9), 0);
+        Check.told(40, x, "not to its own side", x.check(0, 1, 0, t0, -1, 9, 9, 9, 9), 1);
+        Check.told(40, x, "not its side", x.check(0, 3, 0, t0, -1, 9, 9, 9, 9), 1);
+        Check.told(40, x, "two", x.check(0, 2, 3, t0, t1, -1, 0, 0, 0), 0);
+        Check.told(40, x, "the shared side is what it has", x.check(0, 1, 2, t0, t1, -1, 0, 0, 0), 2);
+        Check.told(40, x, "no side for it", x.check(0, 2, 3, t1, -1, 0, 0, 0, 0), 1);
+        Check.told(40, x, "no side for the second", x.check(0, 3, 4, t0, t4, t1, -1, 0, 0), 2);
+        Check.told(40, x, "stood ahead", x.check(0, 1, 2, t0, t3, t0, -1, 0, 0), 3);
+        Check.told(40, x, "like marks, another triangle", x.check(0, 0, 1, t0, t3, -1, 0, 0, 0), 0);
+        Check.told(40, x, "either of two sides", x.check(0, 1, 2, t0, t3, -1, 0, 0, 0), 0);
+        Check.told(40, x, "a miss beyond", x.check(0, 3, 4, t0, t1, t2, -1, 0, 0), 3);
+        Check.told(40, x, "a miss of -100", x.check(0, 3, 4, t0, t1, t4, -1, 0, 0), 0);
+        Check.told(40, x, "the first of two that fail", x.check(0, 3, 4, t1, t2, -1, 0, 0, 0), 1);
+        Check.rule(x, "close 101");
+        Check.told(40, x, "then it stands", x.check(0, 3, 4, t0, t1, t2, -1, 0, 0), 0);
+        Check.rule(x, "least " + (SIXTY - 49));
+        Check.told(40, x, "not well", x.check(0, 3, 4, t0, t1, t4, -1, 0, 0), 3);
+        Check.told(40, x, "six", x.check(0, 1, 2, t0, t1, t2, t3, t4, t0), 4);
+    }
+}
