@@ -8,7 +8,9 @@ public final class ChainTest {
         spread();
         unable();
         longest();
+        roundingEdges();
         order();
+        fewestBehindLonger();
         roundAbout();
         manyWell();
         closing();
@@ -154,6 +156,71 @@ public final class ChainTest {
         Check.refused(36, x, "three", x.chain(0, 0, 4), 5);
         Check.rule(x, "close 9999999");
         Check.told(40, x, "whatever the lengths", x.check(0, 0, 4, 0, 1, 2, -1, 0, 0), 0);
+    }
+
+    /** Marks 0, 1, 2 with the base opposite the first angle, and 0, 2, 3 with side 0-2 opposite the first. */
+    private static GreatArc twoSteps(int lastBar, int... means) {
+        GreatArc x = withBase(4, lastBar);
+        for (int i = 0; i < 3; i++) {
+            x.bar(0, 100000, 15, 0);
+        }
+        triangle(x, of(2, 0, 1), means[0], 6480000 - means[0] - means[1], means[1]);
+        triangle(x, of(3, 0, 2), means[2], 6480000 - means[2] - means[3], means[3]);
+        return x;
+    }
+
+    private static void roundingEdges() {
+        // found by search: carried up to 1,000,000,000 just so, and to one more
+        GreatArc x = twoSteps(19909, 36070, 3220040, 36450, 3210450);
+        Check.due(36, "one step", x.chain(0, 0, 2) > 0, true);
+        Check.due(38, "one step", x.side(true), 17980870);
+        Check.due(36, "just so", x.chain(0, 0, 3) > 0, true);
+        Check.due(38, "just so", x.side(true), 1000000000);
+        GreatArc y = twoSteps(18764, 36280, 3220410, 36110, 3214110);
+        Check.due(36, "one step", y.chain(0, 0, 2) > 0, true);
+        Check.due(38, "one step", y.side(true), 17812425);
+        Check.refused(36, y, "one more", y.chain(0, 0, 3), 5);
+        // 66,159 times the one sine is 1 more than the other goes into it
+        GreatArc z = withBase(3, 66158);
+        triangle(z, of(2, 0, 1), 754490, 6480000 - 754490 - 1123800, 1123800);
+        Check.due(35, "a rest of 1", 66159L * z.sine(1123800) % z.sine(754490), 1);
+        z.chain(0, 0, 2);
+        Check.due(38, "upwards for it", z.side(true), 66159L * z.sine(1123800) / z.sine(754490) + 1);
+        // a long base tells the sine of 90 degrees from that of a second beside
+        GreatArc w = withBase(3, 100000);
+        for (int i = 1; i < 40; i++) {
+            w.bar(0, 100000, 15, 0);
+        }
+        triangle(w, of(2, 0, 1), 2160000, 1080000, 3239990);
+        Check.read(w, 2, 3240009);
+        long sharp = w.sine(2160000);
+        w.chain(0, 0, 2);
+        Check.due(38, "89 degrees 59:59 to 90", w.side(true), (4000040L * 1000000 + sharp - 1) / sharp);
+        Check.due(38, "least of both", w.side(false), 3999960L * w.sine(3239990) / sharp);
+        w.strike(2, 0, true);
+        Check.read(w, 2, 3240010);
+        w.chain(0, 0, 2);
+        Check.due(38, "90 degrees to 90 and a second", w.side(true), (4000040L * 1000000 + sharp - 1) / sharp);
+        w.strike(3, 0, true);
+        w.chain(0, 0, 2);
+        Check.due(38, "a second more alone", w.side(true), (4000040L * w.sine(3240010) + sharp - 1) / sharp);
+    }
+
+    /** The longer way is met first, the shorter one with greater numbers is as good. */
+    private static void fewestBehindLonger() {
+        GreatArc x = withBase(5, 10000);
+        triangle(x, of(0, 1, 2), SIXTY, SIXTY, SIXTY);
+        triangle(x, of(1, 2, 3), SIXTY, SIXTY, SIXTY);
+        triangle(x, of(2, 3, 4), SIXTY, SIXTY, SIXTY);
+        Check.told(36, x, "three", x.chain(0, 3, 4), 2);
+        links(x, 0, 1, 2);
+        triangle(x, of(0, 1, 3), SIXTY, SIXTY, SIXTY);
+        triangle(x, of(1, 3, 4), SIXTY, SIXTY, SIXTY);
+        Check.told(36, x, "two", x.chain(0, 3, 4), 2);
+        links(x, 3, 4);
+        triangle(x, of(4, 3, 0), SIXTY, SIXTY, SIXTY);
+        Check.told(36, x, "the lesser where they differ", x.chain(0, 3, 4), 2);
+        links(x, 3, 4);
     }
 
     private static void order() {

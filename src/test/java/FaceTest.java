@@ -13,7 +13,9 @@ import java.util.regex.Pattern;
 public final class FaceTest {
     public static void main(String[] args) throws Exception {
         face();
+        language();
         onlyOwnExceptions();
+        makesNoObjects();
         Check.end();
     }
 
@@ -54,6 +56,86 @@ public final class FaceTest {
             }
         }
         Check.due(1, "NONE", GreatArc.NONE, -1);
+    }
+
+    /** Some of what LANGUAGE.md rules out, as far as the text shows it. */
+    private static void language() throws Exception {
+        String source = Files.readString(Path.of("src/main/java/GreatArc.java"));
+        String code = source.replaceAll("(?s)/\\*.*?\\*/", "").replaceAll("//[^\n]*", "").replaceAll("\"[^\"]*\"", "");
+        String[] ruledOut = {"->", "::", "double", "float", "Exact\\(", "package ", "finally", "catch", "synchronized",
+            "assert", "record ", "enum ", "Integer\\.valueOf", "hashCode", "toString", "static \\{", "protected"};
+        for (String word : ruledOut) {
+            Check.due(1, "LANGUAGE: '" + word + "'", Pattern.compile(word).matcher(code).find(), false);
+        }
+        Check.due(1, "LANGUAGE 11: classes", code.split("\\bclass ").length - 1 <= 12, true);
+        Check.due(1, "LANGUAGE 4: imports", code.split("\\bimport ").length - 1, 2);
+        Matcher m = Pattern.compile("(?m)^ +private [^=;]*\\(([^)]*)\\) \\{$").matcher(code);
+        while (m.find()) {
+            Check.due(1, "LANGUAGE 11: parameters of " + m.group().trim(), m.group(1).split(",").length <= 7, true);
+        }
+        for (Class<?> inside : GreatArc.class.getDeclaredClasses()) {
+            int fields = 0;
+            for (Field f : inside.getDeclaredFields()) {
+                fields += Modifier.isStatic(f.getModifiers()) ? 0 : 1;
+            }
+            Check.due(1, "LANGUAGE 11: fields of " + inside, fields <= 20, true);
+        }
+    }
+
+    /** All calls of a run share one room that is never swept: a call that makes objects would fill it. */
+    private static void makesNoObjects() {
+        com.sun.management.ThreadMXBean room =
+            (com.sun.management.ThreadMXBean) java.lang.management.ManagementFactory.getThreadMXBean();
+        long one = 0;
+        long rest = 0;
+        for (int turn = 0; turn < 3; turn++) {
+            long start = room.getCurrentThreadAllocatedBytes();
+            GreatArc x = new GreatArc();
+            one = room.getCurrentThreadAllocatedBytes() - start;
+            start = room.getCurrentThreadAllocatedBytes();
+            busy(x);
+            rest = room.getCurrentThreadAllocatedBytes() - start;
+        }
+        Check.due(1, "a new object has " + one + " bytes", one < 400000, true);
+        Check.due(1, "its calls made " + rest + " bytes", rest < 2000, true);
+    }
+
+    private static void busy(GreatArc x) {
+        x.party(true);
+        for (int m = 0; m < 5; m++) {
+            x.mark(m * 33);
+        }
+        for (int t = 0; t < 8; t++) {
+            for (int i = 0; i < 3; i++) {
+                int a = x.angle(i, (i + 1) % 3, (i + 2) % 3);
+                x.read(a, Float.floatToRawIntBits(2160000 + 100 * t), t, 0);
+                x.read(a, Float.floatToRawIntBits(2160000 - 90 * t), t, 0);
+            }
+            x.triangle(3 * t, 3 * t + 1, 3 * t + 2, 0);
+        }
+        x.feed(0x73747269, 0x6B652069, 0x66206F66, 0x663E3939, 0x39393939);
+        x.rule(20, 0, 9);
+        x.base(0, 1, 0);
+        x.bar(0, 50000, 20, 30);
+        x.star(0, 1, 5, 5);
+        for (int r = 0; r < 12; r++) {
+            x.suspect(r);
+        }
+        for (int i = 0; i < 20; i++) {
+            x.chain(0, 1, 2);
+            x.adjust(63, 0);
+            x.change(i);
+            x.part(i, false);
+            x.blunder();
+            x.north(2, 0);
+            x.known(i, 0);
+            x.count(13);
+            x.see(0, 4, 0, 0);
+            x.wide();
+            x.reading(i, 6);
+            x.check(0, 1, 2, 0, 1, 2, -1, 0, 0);
+            x.figure(true);
+        }
     }
 
     private static int odd(Random chance) {

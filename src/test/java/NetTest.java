@@ -247,6 +247,42 @@ public final class NetTest {
         Check.told(31, y, "two rounds", y.adjust(0, 3), 12);
         Check.due(34, "beyond a long", y.cost(), Long.MIN_VALUE);
         Check.due(33, "still told", y.part(11, false), -10799999);
+        // a sum of 9.8 by 10^18 is beyond a long by its highest bit alone
+        for (int i = 0; i < 6; i++) {
+            y.strike(6 + i, 0, true);
+            Check.read(y, 6 + i, 10160000);
+        }
+        Check.told(31, y, "two rounds", y.adjust(0, 3), 12);
+        Check.due(34, "beyond a long", y.cost(), Long.MIN_VALUE);
+        Check.told(31, y, "the second round", y.adjust(0, 2), 6);
+        Check.due(34, "9 * 48,000,000^2 / 6", y.cost(), 1500L * 48000000 * 48000000);
+        adjustParts();
+    }
+
+    /** Weights of 1, 5 and 8 share a miss as 40 : 8 : 5. */
+    private static void adjustParts() {
+        GreatArc x = Check.room(4);
+        int[] means = {12660000, 12650000, 12650000};
+        int[] times = {1, 5, 8};
+        for (int i = 0; i < 3; i++) {
+            x.angle(0, i + 1, (i + 1) % 3 + 1);
+            for (int k = 0; k < times[i]; k++) {
+                Check.read(x, i, means[i]);
+            }
+        }
+        x.round(0, 1, 2, -1, 0, 0);
+        Check.rule(x, "weight count");
+        Check.told(31, x, "a miss of 25,000,000", x.adjust(0, 1), 3);
+        Check.due(33, "1,000,000,000 by 53", x.part(0, false), NO_INT);
+        Check.due(33, "1,000,000,000 by 53", x.part(0, true), NO_INT);
+        Check.due(33, "200,000,000 by 53", x.part(1, false), -200000000);
+        Check.due(33, "125,000,000 by 53", x.part(2, true), 53);
+        x.strike(0, 0, true);
+        Check.read(x, 0, 12660000 - 1);
+        // two readings seen: the weight is 2 now, the shares 20 : 8 : 5
+        x.adjust(0, 1);
+        Check.due(33, "20 * 24,999,999 by 33", x.part(0, false), -20 * (24999999 / 3));
+        Check.due(33, "20 * 24,999,999 by 33", x.part(0, true), 11);
     }
 
     /** Six rounds over pairs of like angles, with all weights, against the fractions of Plain. */
