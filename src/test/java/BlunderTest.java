@@ -8,6 +8,7 @@ public final class BlunderTest {
         ties();
         lastOnes();
         roundsToo();
+        oneForTheOther();
         Check.end();
     }
 
@@ -156,5 +157,28 @@ public final class BlunderTest {
         Check.due(45, "rivals", x.rivals(), 1);
         Check.due(43, "nothing is struck by it", x.reading(3, 7), 1);
         Check.due(43, "nothing is struck by it", x.miss(0, true), -250);
+    }
+
+    /** What mends the second triangle spoils the first: with it the one is within, without it the other. */
+    private static void oneForTheOther() {
+        GreatArc x = triangle(0);
+        x.angle(1, 2, 0);
+        x.angle(2, 0, 1);
+        x.triangle(0, 3, 4, 0);
+        Check.read(x, 0, SIXTY);
+        int shared = Check.read(x, 0, SIXTY + 600);
+        Check.read(x, 1, SIXTY);
+        Check.read(x, 2, SIXTY - 300);
+        Check.read(x, 3, SIXTY);
+        Check.read(x, 4, SIXTY);
+        Check.due(28, "the first", x.miss(0, false), 0);
+        Check.due(28, "the second", x.miss(1, false), 300);
+        x.suspect(shared);
+        Check.due(43, "no way", x.blunder(), -2);
+        x.suspect(3);
+        Check.due(43, "the last of its angle can't go", x.blunder(), -2);
+        Check.read(x, 2, SIXTY);
+        // -150 and 300 now: without both they are 0
+        guilty(x, shared, 3);
     }
 }

@@ -11,6 +11,8 @@ public final class ChainTest {
         roundingEdges();
         order();
         fewestBehindLonger();
+        sixAtMost();
+        lesserSide();
         roundAbout();
         manyWell();
         closing();
@@ -221,6 +223,33 @@ public final class ChainTest {
         triangle(x, of(4, 3, 0), SIXTY, SIXTY, SIXTY);
         Check.told(36, x, "the lesser where they differ", x.chain(0, 3, 4), 2);
         links(x, 3, 4);
+    }
+
+    private static void sixAtMost() {
+        GreatArc x = withBase(9, 10000);
+        for (int t = 0; t < 7; t++) {
+            triangle(x, of(t, t + 1, t + 2), SIXTY, SIXTY, SIXTY);
+            if (t < 6) {
+                Check.told(36, x, "to the end of " + (t + 1), x.chain(0, t + 1, t + 2), 2);
+                Check.due(37, "the last", x.link(t), t);
+                Check.due(37, "none behind it", x.link(t + 1), -1);
+            }
+        }
+        Check.refused(36, x, "a seventh", x.chain(0, 7, 8), 5);
+        Check.told(40, x, "six that stand", x.check(0, 6, 7, 0, 1, 2, 3, 4, 5), 0);
+        Check.told(40, x, "six that end elsewhere", x.check(0, 7, 8, 0, 1, 2, 3, 4, 5), 6);
+    }
+
+    /** Found by search: two ways over the same row of triangles end 1 wide, at 1,120 and at 605. */
+    private static void lesserSide() {
+        GreatArc x = withBase(3, 5790);
+        int[][] means = {{2759927, 420012, 3299782}, {1679853, 1980166, 2819764}, {1140251, 2219700, 3120111}};
+        for (int[] m : means) {
+            triangle(x, of(0, 1, 2), m);
+        }
+        Check.told(36, x, "1 wide", x.chain(0, 0, 2), 1);
+        links(x, 1, 2, 0);
+        Check.due(38, "over the lesser side", x.side(false), 1120);
     }
 
     private static void order() {

@@ -10,6 +10,7 @@ import java.util.Random;
 /** Lays GreatArc's answers beside Plain's over many runs of chance calls, each kind of run with its own bent. */
 public final class FuzzTest {
     private static final int CALLS = 512;
+    private static final int KINDS = 11;
     private static final String[] NAMES = {"off", "hour", "party", "count", "spread", "kept", "at"};
     private static final Map<String, Method> ARC = methods(GreatArc.class);
     private static final Map<String, Method> PLAIN = methods(Plain.class);
@@ -471,6 +472,12 @@ public final class FuzzTest {
     }
 
     private void setOut(int kind) {
+        if (kind == 10) {
+            call("party", true);
+            call("party", false);
+            fill();
+            return;
+        }
         call("party", true);
         call("party", false);
         call("party", oneIn(2));
@@ -527,7 +534,7 @@ public final class FuzzTest {
 
     private void step(int kind) {
         call("trouble");
-        int which = oneIn(kind == 7 ? 1 : 6) ? chance.nextInt(8) : kind;
+        int which = oneIn(kind == 7 || kind == 10 ? 1 : 6) ? chance.nextInt(8) : kind;
         switch (which) {
             case 0: landCall(); break;
             case 1: bookCall(); break;
@@ -559,24 +566,69 @@ public final class FuzzTest {
         return !wrong;
     }
 
+    /** Fills every bound, so that what is asked behind it walks over full rows. */
+    private void fill() {
+        for (int i = 0; i < 31; i++) {
+            marks += number("mark", 33 * i) >= 0 ? 1 : 0;
+        }
+        for (int i = 0; i < 6; i++) {
+            int a = addAngle(i, i + 1, i + 2);
+            addReading(a, 5000000);
+            int b = addAngle(i, i + 2, i + 1);
+            addReading(b, 7960000);
+            call("round", a, b, -1, 0, 0, 0);
+            call("round", b, a, -1, 0, 0, 0);
+        }
+        call("round", 0, 1, -1, 0, 0, 0);
+        for (int i = 0; i < 22; i++) {
+            addAngle(i, i + 1, i + 2);
+            addAngle(i + 1, i + 2, i);
+            addAngle(i + 2, i, i + 1);
+            for (int a = angles - 3; a < angles; a++) {
+                addReading(a, ring);
+            }
+        }
+        for (int i = 0; i < 3; i++) {
+            addAngle(27, 28, 29);
+        }
+        for (int i = 0; i < 31; i++) {
+            int a = 12 + 3 * (i % 22);
+            triangles += number("triangle", a, a + 1, a + 2, i) >= 0 ? 1 : 0;
+        }
+        for (int i = 0; i < 61; i++) {
+            call("level", i % 30, (i + 1) % 30, i, i % 24);
+        }
+        for (int i = 0; i < 31; i++) {
+            call("arc", 3 * i, 1000 + i * i);
+        }
+        for (int i = 0; i < 25; i++) {
+            feed("least 9*" + i + "4000");
+            call("rule", 20, 0, 40 - i);
+        }
+        for (int i = 0; i < 21; i++) {
+            call("star", i % 7, i % 7 + 1, i * 5000, 3);
+        }
+        for (int i = 0; i < 13; i++) {
+            call("mass", i * 40, 1000 * i + 1);
+            call("suspect", i);
+        }
+        for (int i = 0; i < 7; i++) {
+            call("base", i, i + 1, 0);
+            call("party", true);
+        }
+    }
+
+    /** With a kind of run as the third argument, runs of that kind alone. */
     public static void main(String[] args) {
         long first = args.length > 0 ? Long.parseLong(args[0]) : 1;
-        int runs = args.length > 1 ? Integer.parseInt(args[1]) : 600;
+        int runs = args.length > 1 ? Integer.parseInt(args[1]) : 660;
+        int only = args.length > 2 ? Integer.parseInt(args[2]) : -1;
         int bad = 0;
         long calls = 0;
-        Map<String, Integer> told = new java.util.TreeMap<>();
         for (long seed = first; seed < first + runs && bad < 3; seed++) {
             FuzzTest test = new FuzzTest(seed);
-            boolean good = test.run((int) (seed % 10));
+            boolean good = test.run(only >= 0 ? only : (int) (seed % KINDS));
             calls += test.log.size();
-            if (args.length > 2) {
-                for (String line : test.log) {
-                    String answer = line.substring(line.lastIndexOf(' ') + 1);
-                    String name = line.replaceAll("\\[.*", "");
-                    boolean small = answer.matches("-?\\d");
-                    told.merge(name + " " + (small ? answer : answer.startsWith("-") ? "-.." : ".."), 1, Integer::sum);
-                }
-            }
             if (!good) {
                 bad++;
                 System.out.println("run of seed " + seed + ":");
@@ -585,7 +637,6 @@ public final class FuzzTest {
                 }
             }
         }
-        told.forEach((k, v) -> System.out.println(k + ": " + v));
         System.out.println(runs + " runs, " + calls + " calls: " + (bad == 0 ? "all as due" : bad + " runs are not as due"));
         if (bad != 0) {
             System.exit(1);

@@ -106,6 +106,15 @@ public final class RulesTest {
         fault("<", 1, 0);
         fault(" ?", 1, 1);
         fault("Strike", 1, 0);
+        fault("z", 2, 0);
+        fault("a", 2, 0);
+        fault("`", 1, 0);
+        fault("{", 1, 0);
+        fault("least z", 2, 6);
+        fault("least /", 1, 6);
+        fault("least :", 1, 6);
+        sound("least 0");
+        sound("least 9");
         fault("strikes if 1<2", 2, 0);
         fault("if", 2, 0);
         fault("not", 2, 0);
