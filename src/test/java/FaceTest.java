@@ -86,15 +86,16 @@ public final class FaceTest {
     private static void makesNoObjects() {
         com.sun.management.ThreadMXBean room =
             (com.sun.management.ThreadMXBean) java.lang.management.ManagementFactory.getThreadMXBean();
-        long one = 0;
-        long rest = 0;
-        for (int turn = 0; turn < 3; turn++) {
+        long one = Long.MAX_VALUE;
+        long rest = Long.MAX_VALUE;
+        // the first turn loads classes, too
+        for (int turn = 0; turn < 4; turn++) {
             long start = room.getCurrentThreadAllocatedBytes();
             GreatArc x = new GreatArc();
-            one = room.getCurrentThreadAllocatedBytes() - start;
+            one = Math.min(one, room.getCurrentThreadAllocatedBytes() - start);
             start = room.getCurrentThreadAllocatedBytes();
             busy(x);
-            rest = room.getCurrentThreadAllocatedBytes() - start;
+            rest = Math.min(rest, room.getCurrentThreadAllocatedBytes() - start);
         }
         Check.due(1, "a new object has " + one + " bytes", one < 400000, true);
         Check.due(1, "its calls made " + rest + " bytes", rest < 2000, true);
