@@ -998,7 +998,7 @@ public final class GreatArc {
 
         private void takeAct() {
             act = actHere();
-            if (kind != WORD) {
+            if (kind != WORD || isJoint()) {
                 fail(FORM);
             } else if (act == NO_ACT) {
                 fail(UNKNOWN);

@@ -468,6 +468,7 @@ public final class Plain {
     static final class Reader {
         record Token(String text, int place) { }
 
+        static final List<String> JOINTS = List.of("if", "and", "or", "not");
         final List<Token> tokens = new ArrayList<>();
         int next = 0;
         int operands = 0;
@@ -521,7 +522,7 @@ public final class Plain {
 
         Rule rule() {
             Rule rule = new Rule();
-            if (!isWord()) {
+            if (!isWord() || JOINTS.contains(see())) {
                 throw fault(1);
             }
             if (!List.of("strike", "weight", "again", "least", "close").contains(see())) {
@@ -629,7 +630,7 @@ public final class Plain {
             String text = see();
             boolean number = !text.isEmpty() && text.charAt(0) >= '0' && text.charAt(0) <= '9';
             if (!number) {
-                if (!isWord() || List.of("if", "and", "or", "not").contains(text)) {
+                if (!isWord() || JOINTS.contains(text)) {
                     throw fault(1);
                 }
                 if (!List.of("off", "hour", "party", "count", "spread", "kept", "at").contains(text)) {

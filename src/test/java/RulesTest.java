@@ -116,8 +116,15 @@ public final class RulesTest {
         sound("least 0");
         sound("least 9");
         fault("strikes if 1<2", 2, 0);
-        fault("if", 2, 0);
-        fault("not", 2, 0);
+        // these four are no form wherever an act or a name can be, and no unknown word
+        fault("if", 1, 0);
+        fault("and", 1, 0);
+        fault("or", 1, 0);
+        fault("not", 1, 0);
+        fault("  not 1<2", 1, 2);
+        fault("if off<1", 1, 0);
+        fault("iff", 2, 0);
+        fault("no", 2, 0);
         fault("off", 2, 0);
         fault("abcdefgh", 2, 0);
         fault("abcdefghi", 1, 0);
