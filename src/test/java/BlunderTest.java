@@ -9,6 +9,11 @@ public final class BlunderTest {
         lastOnes();
         roundsToo();
         oneForTheOther();
+        sizes();
+        bothWays();
+        allConditions();
+        notKeptAnyMore();
+        firstByNumbers();
         Check.end();
     }
 
@@ -28,6 +33,9 @@ public final class BlunderTest {
     }
 
     private static void suspects() {
+        Check.says(41, "VIII. BLUNDERS: suspects: up to 12 READINGS, KEPT ones.");
+        Check.due(57, "none at first", new GreatArc().count(10), 0);
+        Check.says(41, "A READING becomes a suspect: how many there are. NONE: 1; 5 (not KEPT, already); 3.");
         GreatArc x = triangle(5);
         x.read(0, Check.bits(Float.NaN), 0, 0);
         Check.refused(41, x, "no reading", x.suspect(16), 1);
@@ -43,10 +51,14 @@ public final class BlunderTest {
         Check.due(41, "count(10)", x.count(10), 12);
         x.strike(5, 0, true);
         Check.due(41, "one that isn't kept stays", x.count(10), 12);
+        Check.says(42, "No suspects: how many there were.");
         Check.due(42, "clear", x.clear(), 12);
+        Check.due(42, "none now", x.count(10), 0);
         Check.due(42, "clear", x.clear(), 0);
         Check.due(42, "clear leaves trouble alone", x.trouble(), 0);
         Check.told(41, x, "suspect", x.suspect(12), 1);
+        Check.refused(41, x, "far from any", x.suspect(Integer.MAX_VALUE), 1);
+        Check.refused(41, x, "far from any", x.suspect(Integer.MIN_VALUE), 1);
         Check.rule(x, "strike if off = 0");
         Check.refused(41, x, "struck by a rule", x.suspect(13), 5);
     }
@@ -61,10 +73,12 @@ public final class BlunderTest {
     }
 
     private static void fewest() {
+        Check.says(45, "How many sets of that size there were; 0 ahead of any.");
         GreatArc x = triangle(2);
         Check.due(45, "ahead of any", x.rivals(), 0);
         guilty(x);
         Check.due(45, "the empty set", x.rivals(), 1);
+        Check.says(44, "The i-th of the latest blunder() that told 0 or more; NONE.");
         // mean 0 becomes (2 * 60 degrees and 600) / 3: a miss of 200
         int a = Check.read(x, 0, SIXTY + 600);
         Check.due(43, "no suspects", x.blunder(), -2);
@@ -125,6 +139,7 @@ public final class BlunderTest {
     }
 
     private static void lastOnes() {
+        Check.says(43, "(No ANGLE may lose its last KEPT one.)");
         GreatArc x = triangle(1);
         int bad = Check.read(x, 0, SIXTY + 1000);
         x.strike(0, 0, true);
@@ -180,5 +195,138 @@ public final class BlunderTest {
         Check.read(x, 2, SIXTY);
         // -150 and 300 now: without both they are 0
         guilty(x, shared, 3);
+    }
+
+    /** Six sound readings and twelve suspects, 600 too great: without k of them the mean is 600 (12 - k) by 18 - k. */
+    private static void sizes() {
+        Check.says(43, "The fewest of them whose striking by hand lets all MISSES of TRIANGLES and ROUNDS (that have all MEANS) lie "
+            + "within ALLOWED, both ways; of as few the first by numbers; how many such sets of that size there are.");
+        GreatArc x = triangle(1);
+        for (int i = 1; i < 6; i++) {
+            Check.read(x, 0, SIXTY);
+        }
+        int[] r = new int[12];
+        for (int i = 0; i < 12; i++) {
+            r[i] = Check.read(x, 0, SIXTY + 600);
+            Check.told(41, x, "suspect", x.suspect(r[i]), i + 1);
+        }
+        int ways = 1;
+        for (int k = 0; k <= 12; k++) {
+            Check.rule(x, "close " + 600 * (12 - k) / (18 - k));
+            guilty(x, java.util.Arrays.copyOf(r, k));
+            Check.due(45, k + " of twelve", x.rivals(), ways);
+            ways = ways * (12 - k) / (k + 1);
+        }
+        Check.says(43, "BLUNDERS: how many; -2 if not even all do.");
+        int one = Check.read(x, 1, SIXTY + 2);
+        Check.due(43, "1 too great without all twelve", x.blunder(), -2);
+        x.strike(one, 0, true);
+        Check.due(43, "all twelve", x.blunder(), 12);
+    }
+
+    private static void bothWays() {
+        Check.says(43, "lie within ALLOWED, both ways;");
+        int[] means = {100, 101, -100, -101};
+        for (int mean : means) {
+            GreatArc x = triangle(1);
+            int odd = Check.read(x, 1, SIXTY + 2 * mean);
+            x.suspect(odd);
+            Check.due(28, "the miss", x.miss(0, false), mean);
+            Check.due(43, "a miss of " + mean, x.blunder(), mean == 100 || mean == -100 ? 0 : 1);
+        }
+    }
+
+    /** Three triangles and two rounds, each with angles of its own; one after the other is made wide. */
+    private static void allConditions() {
+        Check.says(43, "lets all MISSES of TRIANGLES and ROUNDS (that have all MEANS)");
+        GreatArc x = Check.room(4);
+        for (int t = 0; t < 3; t++) {
+            for (int i = 0; i < 3; i++) {
+                x.angle(i, (i + 1) % 3, (i + 2) % 3);
+                Check.read(x, 3 * t + i, SIXTY);
+            }
+            x.triangle(3 * t, 3 * t + 1, 3 * t + 2, 0);
+        }
+        for (int r = 0; r < 2; r++) {
+            x.angle(3, 0, 1);
+            x.angle(3, 1, 0);
+            Check.read(x, 9 + 2 * r, 3 * SIXTY);
+            Check.read(x, 10 + 2 * r, 3 * SIXTY);
+            x.round(9 + 2 * r, 10 + 2 * r, -1, 0, 0, 0);
+        }
+        int[] angles = {12, 8, 3, 10, 1, 0, 11};
+        int[] odd = new int[angles.length];
+        for (int i = 0; i < angles.length; i++) {
+            odd[i] = Check.read(x, angles[i], (angles[i] < 9 ? SIXTY : 3 * SIXTY) + 300 + 10 * i);
+            Check.due(43, "beyond by the reading of angle " + angles[i], x.blunder(), -2);
+            x.suspect(odd[i]);
+            guilty(x, java.util.Arrays.copyOf(odd, i + 1));
+            Check.due(45, "no other set", x.rivals(), 1);
+        }
+        Check.rule(x, "close 200");
+        // triangle 0 is 170 and 175 beyond, round 1 150 and 180
+        guilty(x, odd[0], odd[4]);
+        Check.due(45, "one of the two of triangle 0, and one of round 1", x.rivals(), 4);
+        // without a mean of its own a condition is left out
+        x.strike(1, 0, true);
+        x.strike(odd[4], 0, true);
+        guilty(x, odd[0]);
+        Check.due(45, "one of round 1", x.rivals(), 2);
+        x.strike(odd[4], 0, false);
+        x.strike(1, 0, false);
+        Check.rule(x, "close 100");
+        guilty(x, odd);
+    }
+
+    private static void notKeptAnyMore() {
+        Check.says(43, "(Those that aren't KEPT any more are left out.)");
+        for (int way = 0; way < 2; way++) {
+            GreatArc x = triangle(1);
+            x.read(0, Check.bits(SIXTY + 250), 3, 1);
+            x.read(0, Check.bits(SIXTY + 300), 4, 1);
+            x.suspect(3);
+            x.suspect(4);
+            guilty(x, 3, 4);
+            if (way == 0) {
+                x.strike(3, 0, true);
+            } else {
+                Check.rule(x, "strike if hour = 3");
+            }
+            Check.due(41, "a suspect still", x.count(10), 2);
+            Check.due(28, "a mean of 150 too much", x.miss(0, false), 150);
+            guilty(x, 4);
+            Check.due(45, "the one left", x.rivals(), 1);
+            Check.refused(41, x, "it isn't kept", x.suspect(3), 5);
+            if (way == 0) {
+                x.strike(3, 0, false);
+            } else {
+                x.force(0, 9, 9);
+            }
+            Check.refused(41, x, "it is one already", x.suspect(3), 5);
+            guilty(x, 3, 4);
+        }
+    }
+
+    private static void firstByNumbers() {
+        Check.says(43, "of as few the first by numbers; how many such sets of that size there are.");
+        GreatArc x = triangle(1);
+        // two readings each at angles 0 and 1 are 400 too great: 266 each, 200 with one less, 0 with none
+        int[] order = {6, 4, 5, 3};
+        Check.read(x, 0, SIXTY + 400);
+        Check.read(x, 0, SIXTY + 400);
+        Check.read(x, 1, SIXTY + 400);
+        Check.read(x, 1, SIXTY + 400);
+        for (int r : order) {
+            x.suspect(r);
+        }
+        Check.rule(x, "close 400");
+        guilty(x, 3, 4);
+        Check.due(45, "any two", x.rivals(), 6);
+        Check.rule(x, "close 265");
+        guilty(x, 3, 4, 5);
+        Check.due(45, "any three", x.rivals(), 4);
+        Check.rule(x, "close 466");
+        guilty(x, 3);
+        Check.due(45, "any one", x.rivals(), 4);
     }
 }

@@ -5,22 +5,30 @@ public final class ChainTest {
     public static void main(String[] args) {
         sines();
         carrying();
+        fromEachSide();
         spread();
         unable();
+        unableBesideAble();
         longest();
         roundingEdges();
         order();
         fewestBehindLonger();
         sixAtMost();
         lesserSide();
+        lesserOfTied();
+        withoutBars();
         roundAbout();
         manyWell();
         closing();
         checking();
+        checkedSides();
+        checkedTriangles();
         Check.end();
     }
 
     private static void sines() {
+        Check.says(35, "VII. SINE of whole seconds u (a tenth of TICKS, downwards) of HALF's 648,000: 4,000,000 times u times "
+            + "(648,000 - u) by (524,880,000,000 less u times (648,000 - u)), downwards: millionths.");
         GreatArc x = new GreatArc();
         Check.due(35, "-1", x.sine(-1), -1);
         Check.due(35, "0", x.sine(0), 0);
@@ -28,10 +36,19 @@ public final class ChainTest {
         // 4,000,000 * 1 * 647,999 by 524,879,352,001 is 4.9
         Check.due(35, "1 second", x.sine(10), 4);
         Check.due(35, "19 ticks are 1 second", x.sine(19), 4);
+        Check.due(35, "2 seconds", x.sine(20), 9);
+        Check.due(35, "2 seconds", x.sine(29), 9);
         Check.due(35, "30 degrees", x.sine(1080000), 500000);
+        Check.due(35, "30 degrees less a tick", x.sine(1079999), 499995);
+        Check.due(35, "37.5 degrees", x.sine(1350000), 608000);
+        Check.due(35, "142.5 degrees", x.sine(5130000), 608000);
         Check.due(35, "90 degrees", x.sine(3240000), 1000000);
         Check.due(35, "150 degrees", x.sine(5400000), 500000);
         Check.due(35, "a second less than HALF", x.sine(6479990), 4);
+        Check.due(35, "a tick less than HALF", x.sine(6479999), 4);
+        Check.says(35, "SINE of TICKS (0 .. 6,480,000); NONE.");
+        Check.due(35, "far below", x.sine(Integer.MIN_VALUE), -1);
+        Check.due(35, "far beyond", x.sine(Integer.MAX_VALUE), -1);
         Check.due(35, "HALF", x.sine(6480000), 0);
         Check.due(35, "beyond", x.sine(6480001), -1);
         for (int ticks = 0; ticks <= 6480000; ticks += 9973) {
@@ -71,7 +88,14 @@ public final class ChainTest {
     }
 
     private static void carrying() {
+        Check.says(36, "CHAIN from a BASE to two MARKS: the span (most less least). NONE: 1 (one MARK twice, too); 7; 5 (none).");
         GreatArc x = withBase(4, 10000);
+        Check.refused(36, x, "one mark twice", x.chain(0, 0, 0), 1);
+        Check.says(38, "The side's least (or most) there; NONE ahead of any.");
+        Check.due(38, "ahead of any that told a number", x.side(true), -1);
+        Check.due(38, "ahead of any that told a number", x.side(false), -1);
+        Check.says(37, "The i-th TRIANGLE of the latest chain() that told a number; NONE.");
+        links(x);
         Check.refused(36, x, "no base", x.chain(1, 0, 1), 1);
         Check.refused(36, x, "no base", x.chain(-1, 0, 1), 1);
         Check.refused(36, x, "no mark", x.chain(0, 0, 4), 1);
@@ -94,6 +118,10 @@ public final class ChainTest {
         Check.due(38, "5,000,500,000 by 864,864", x.side(true), 5782);
         Check.refused(36, x, "to a mark of no triangle", x.chain(0, 2, 3), 5);
         Check.due(38, "the latest that told a number", x.side(true), 5782);
+        x.chain(0, 2, 2);
+        x.chain(5, 0, 1);
+        links(x, 0);
+        Check.due(38, "the latest that told a number", x.side(false), 5780);
         triangle(x, of(3, 2, 1), SIXTY, SIXTY, SIXTY);
         Check.told(36, x, "over two", x.chain(0, 2, 3), 3);
         links(x, 0, 1);
@@ -103,7 +131,45 @@ public final class ChainTest {
         links(x, 0, 1);
     }
 
+    /** Each side of a triangle as the base's, and each other one as what it is carried to. */
+    private static void fromEachSide() {
+        Check.says(36, "SIDE spans: a BASE's SPAN (JOINED, if it was LAID AGAIN), carried over a TRIANGLE from the side of two of "
+            + "its MARKS to another of its sides: least: side's least times SINE's least of the ANGLE opposite the new one by "
+            + "SINE's most of the ANGLE opposite the old one, downwards; most: the other way about, upwards;");
+        int[][] means = {{1111110, 2222220, 3146670}, {4000000, 500000, 1980000}, {3240000, 3200000, 40000}};
+        for (int[] m : means) {
+            for (int from = 0; from < 3; from++) {
+                for (int to = 0; to < 3; to++) {
+                    GreatArc x = Check.room(3);
+                    x.base((from + 1) % 3, (from + 2) % 3, 0);
+                    x.bar(0, 12345, 15, 0);
+                    triangle(x, of(0, 1, 2), m);
+                    long[] want = {12344, 12346};
+                    if (from != to) {
+                        want = carried(m, from, to, want);
+                    }
+                    Check.told(36, x, "from " + from + " to " + to, x.chain(0, (to + 2) % 3, (to + 1) % 3), want[1] - want[0]);
+                    Check.due(38, "least", x.side(false), want[0]);
+                    Check.due(38, "most", x.side(true), want[1]);
+                }
+            }
+        }
+    }
+
+    private static long sine(int ticks) {
+        long w = (ticks / 10) * (648000L - ticks / 10);
+        return 4000000 * w / (524880000000L - w);
+    }
+
+    /** A span carried over a triangle of marks 0, 1, 2, each side named by the mark that it lies opposite. */
+    private static long[] carried(int[] means, int from, int to, long[] span) {
+        long old = sine(means[from]);
+        return new long[] {span[0] * sine(means[to]) / old, (span[1] * sine(means[to]) + old - 1) / old};
+    }
+
     private static void spread() {
+        Check.says(36, "SINE's least and most are those over all whole seconds from LEAST to MOST of the ANGLE (of the ANGLE's "
+            + "LEAST and MOST READINGS).");
         GreatArc x = withBase(3, 10000);
         triangle(x, of(0, 1, 2), 3240000 - 90000, 1080000, SIXTY);
         Check.read(x, 0, 3240000 + 180000);
@@ -130,6 +196,8 @@ public final class ChainTest {
     }
 
     private static void unable() {
+        Check.says(36, "A TRIANGLE with an ANGLE without KEPT ones, or whose LEAST is below 36,000 or MOST above 6,444,000, carries "
+            + "nothing,");
         for (int i = 0; i < 6; i++) {
             GreatArc x = withBase(3, 10000);
             int[] told = {36000, 6408000, 36000};
@@ -145,7 +213,32 @@ public final class ChainTest {
         }
     }
 
+    /** Of two triangles with unlike angles one may carry nothing: the other one does, wherever it stands. */
+    private static void unableBesideAble() {
+        int[][] orders = {{0, 1}, {1, 0}};
+        for (int i = 0; i < 12; i++) {
+            GreatArc x = withBase(4, 10000);
+            int[] beyond = {SIXTY, SIXTY, SIXTY};
+            beyond[i % 3] = i < 6 ? 35999 : 6444001;
+            int[] triangles = {-1, -1};
+            for (int which : orders[i / 3 % 2]) {
+                triangles[which] = which == 0 ? triangle(x, of(0, 1, 2), SIXTY, SIXTY, SIXTY) : triangle(x, of(0, 1, 3), beyond);
+            }
+            Check.told(36, x, "over the able one", x.chain(0, 1, 2), 2);
+            links(x, triangles[0]);
+            Check.refused(36, x, "over the other one", x.chain(0, 1, 3), 5);
+            Check.due(29, "it is well", x.well(triangles[1]), 1);
+        }
+        GreatArc x = withBase(3, 10000);
+        triangle(x, of(0, 1, 2), SIXTY, SIXTY, SIXTY);
+        x.strike(1, 0, true);
+        Check.refused(36, x, "without kept ones", x.chain(0, 1, 2), 5);
+        x.strike(1, 0, false);
+        Check.told(36, x, "with them", x.chain(0, 1, 2), 2);
+    }
+
     private static void longest() {
+        Check.says(36, "and nothing is carried whose most would be above 1,000,000,000.");
         GreatArc x = withBase(5, 100000);
         // the base opposite the 1 degree, carried to the side opposite 89: times 56.3 each
         triangle(x, of(2, 0, 1), 36000, 3204000, 3240000);
@@ -172,6 +265,7 @@ public final class ChainTest {
     }
 
     private static void roundingEdges() {
+        Check.says(36, "nothing is carried whose most would be above 1,000,000,000.");
         // found by search: carried up to 1,000,000,000 just so, and to one more
         GreatArc x = twoSteps(19909, 36070, 3220040, 36450, 3210450);
         Check.due(36, "one step", x.chain(0, 0, 2) > 0, true);
@@ -210,6 +304,7 @@ public final class ChainTest {
 
     /** The longer way is met first, the shorter one with greater numbers is as good. */
     private static void fewestBehindLonger() {
+        Check.says(36, "of as good ones with the fewest TRIANGLES, then with the lesser TRIANGLE where they first differ,");
         GreatArc x = withBase(5, 10000);
         triangle(x, of(0, 1, 2), SIXTY, SIXTY, SIXTY);
         triangle(x, of(1, 2, 3), SIXTY, SIXTY, SIXTY);
@@ -226,6 +321,9 @@ public final class ChainTest {
     }
 
     private static void sixAtMost() {
+        Check.says(36, "CHAIN from a BASE to two MARKS: none, one, or up to 6 TRIANGLES, one behind the other, none twice, each of "
+            + "which carries the side that it has from the one ahead (the first the BASE's) to another of its sides, the last to "
+            + "the two MARKS';");
         GreatArc x = withBase(9, 10000);
         for (int t = 0; t < 7; t++) {
             triangle(x, of(t, t + 1, t + 2), SIXTY, SIXTY, SIXTY);
@@ -252,7 +350,72 @@ public final class ChainTest {
         Check.due(38, "over the lesser side", x.side(false), 1120);
     }
 
+    /** Ways over the same row of triangles, found by search, that end as wide: by marks 0-1-2 the sides are 1-2, 0-2, 0-1. */
+    private static void lesserOfTied() {
+        Check.says(36, "then with the lesser side (by its lesser MARK, then the other one) where these do.");
+        tied(2, 2875, new int[] {0, 2, 1}, 1,
+            new int[][] {{900000, 2100000, 3480000}, {2100000, 1200000, 3180000}, {3600000, 2100000, 780000}});
+        tied(2, 2840, new int[] {0, 1, 2}, 0,
+            new int[][] {{2700000, 2100000, 1680000}, {3600000, 2100000, 780000}, {1500000, 2100000, 2880000}});
+        tied(0, 1447, new int[] {0, 1}, 0,
+            new int[][] {{3600000, 1200000, 1680000}, {600000, 2400000, 3480000}});
+        tied(0, 3639, new int[] {0, 2, 1}, 2,
+            new int[][] {{3000000, 600000, 2880000}, {3000000, 2100000, 1380000}, {1200000, 2100000, 3180000}});
+        tied(0, 2971, new int[] {2, 0, 1}, 1,
+            new int[][] {{600000, 2400000, 3480000}, {2700000, 600000, 3180000}, {2100000, 2100000, 2280000}});
+    }
+
+    private static void tied(int base, int length, int[] row, int target, int[][] means) {
+        GreatArc x = Check.room(3);
+        x.base((base + 1) % 3, (base + 2) % 3, 0);
+        x.bar(0, length, 15, 0);
+        for (int[] m : means) {
+            triangle(x, of(0, 1, 2), m);
+        }
+        int width = x.chain(0, (target + 1) % 3, (target + 2) % 3);
+        links(x, row);
+        // the lesser side is the one opposite the greater mark, so that from 2 down they are met in order
+        long[] first = null;
+        int ways = 0;
+        for (int code = 0; code < 27; code++) {
+            long[] span = {length - 1, length + 1};
+            int side = base;
+            for (int i = 0; i < row.length && side >= 0; i++) {
+                int to = 2 - code / (i == 0 ? 9 : i == 1 ? 3 : 1) % 3;
+                span = to == side ? span : carried(means[row[i]], side, to, span);
+                side = to == side ? -1 : to;
+            }
+            if (side == target && span[1] - span[0] == width && (row.length == 3 || code % 3 == 0)) {
+                ways++;
+                first = first == null ? span : first;
+            }
+        }
+        Check.due(36, "there are some ways", ways >= 2, true);
+        Check.due(38, "least over the lesser side", x.side(false), first[0]);
+        Check.due(38, "most over the lesser side", x.side(true), first[1]);
+    }
+
+    /** A base without bars spans 0 to 0, and so does all that is carried from it. */
+    private static void withoutBars() {
+        Check.says(36, "the CHAIN whose span at the end (most less least) is least,");
+        GreatArc x = Check.room(4);
+        x.base(0, 1, 0);
+        triangle(x, of(0, 1, 2), SIXTY, SIXTY, SIXTY);
+        triangle(x, of(0, 1, 2), SIXTY, SIXTY, SIXTY);
+        triangle(x, of(1, 2, 3), SIXTY, SIXTY, SIXTY);
+        Check.told(36, x, "to its own marks", x.chain(0, 0, 1), 0);
+        links(x);
+        Check.told(36, x, "over one", x.chain(0, 1, 2), 0);
+        links(x, 0);
+        Check.told(36, x, "over two", x.chain(0, 3, 2), 0);
+        links(x, 0, 2);
+        Check.due(38, "least", x.side(false), 0);
+        Check.due(38, "most", x.side(true), 0);
+        Check.refused(36, x, "to marks of no side", x.chain(0, 0, 3), 5);
+    }
+
     private static void order() {
+        Check.says(36, "the CHAIN whose span at the end (most less least) is least, of as good ones with the fewest TRIANGLES,");
         GreatArc x = withBase(4, 10000);
         triangle(x, of(0, 1, 3), SIXTY, SIXTY, SIXTY);
         triangle(x, of(1, 2, 3), SIXTY, SIXTY, SIXTY);
@@ -275,6 +438,7 @@ public final class ChainTest {
 
     /** The way back to the base's own side may be shorter, and then its span less. */
     private static void roundAbout() {
+        Check.says(36, "up to 6 TRIANGLES, one behind the other, none twice,");
         GreatArc x = withBase(3, 100000);
         for (int i = 0; i < 9; i++) {
             x.bar(0, 100000, 15, 0);
@@ -291,6 +455,7 @@ public final class ChainTest {
     }
 
     private static void manyWell() {
+        Check.says(36, "All of them WELL; if more than 8 TRIANGLES are WELL it is refused.");
         GreatArc x = withBase(3, 10000);
         for (int t = 0; t < 8; t++) {
             triangle(x, of(0, 1, 2), SIXTY, SIXTY, SIXTY);
@@ -305,7 +470,27 @@ public final class ChainTest {
         Check.told(36, x, "eight again", x.chain(0, 1, 2), 2);
     }
 
+    private static void apart() {
+        Check.says(39, "CLOSE: what is carried to a second BASE's MARKS against its own SPAN: by how much they are apart (0 if they "
+            + "meet).");
+        // 9,999 .. 10,001 is carried, as all sines are alike
+        int[] lengths = {9000, 9997, 9998, 9999, 10000, 10001, 10002, 10003, 11000};
+        int[] apart = {998, 1, 0, 0, 0, 0, 0, 1, 998};
+        for (int i = 0; i < lengths.length; i++) {
+            GreatArc x = withBase(3, 10000);
+            triangle(x, of(0, 1, 2), SIXTY, SIXTY, SIXTY);
+            x.base(2, 1, 0);
+            x.bar(1, lengths[i], 15, 0);
+            Check.told(39, x, "10,000 to " + lengths[i], x.close(0, 1), apart[i]);
+            Check.due(38, "what is carried", x.side(true), 10001);
+            links(x, 0);
+        }
+    }
+
     private static void closing() {
+        apart();
+        Check.says(39, "CLOSE from a BASE to another one over the CHAIN to its MARKS (link() and side() tell of it then). NONE: 1 "
+            + "(the same MARKS, too); 7; 5.");
         GreatArc x = withBase(4, 10000);
         x.base(1, 0, 1);
         x.bar(1, 10000, 15, 0);
@@ -313,6 +498,8 @@ public final class ChainTest {
         x.base(2, 3, 0);
         Check.refused(39, x, "no base", x.close(0, 4), 1);
         Check.refused(39, x, "no base", x.close(-1, 0), 1);
+        Check.refused(39, x, "no base", x.close(0, -1), 1);
+        Check.refused(39, x, "far from any base", x.close(Integer.MAX_VALUE, Integer.MIN_VALUE), 1);
         Check.refused(39, x, "the same", x.close(0, 0), 1);
         Check.refused(39, x, "the same marks", x.close(0, 1), 1);
         Check.refused(39, x, "no chain", x.close(0, 2), 5);
@@ -330,10 +517,15 @@ public final class ChainTest {
         x.bar(4, 10000, 15, 0);
         // torn now: from 9,999 to 10,992
         Check.told(39, x, "they meet", x.close(0, 2), 0);
+        Check.due(39, "trouble ahead of one that isn't refused", x.mark(-1), -1);
+        Check.told(39, x, "they meet", x.close(1, 2), 0);
+        Check.refused(39, x, "the same marks", x.close(2, 4), 1);
         Check.refused(39, x, "none to 3", x.close(0, 3), 5);
     }
 
     private static void checking() {
+        Check.says(40, "CHECKED: a CHAIN of TRIANGLES (the first -1 ends them) from a BASE to two MARKS. NONE: 1 (BASE, MARKS, one "
+            + "MARK twice, a TRIANGLE, none at all).");
         GreatArc x = withBase(5, 10000);
         int t0 = triangle(x, of(0, 1, 2), SIXTY, SIXTY, SIXTY);
         int t1 = triangle(x, of(1, 2, 3), SIXTY, SIXTY, SIXTY);
@@ -364,5 +556,79 @@ public final class ChainTest {
         Check.rule(x, "least " + (SIXTY - 49));
         Check.told(40, x, "not well", x.check(0, 3, 4, t0, t1, t4, -1, 0, 0), 3);
         Check.told(40, x, "six", x.check(0, 1, 2, t0, t1, t2, t3, t4, t0), 4);
+    }
+
+    /** What the base's side may have become behind each triangle: any but the one that alone was carried to it. */
+    private static void checkedSides() {
+        Check.says(40, "stood ahead, has no side that can be carried to it, or, being the last, doesn't carry one to the two MARKS' "
+            + "side.");
+        GreatArc x = withBase(4, 10000);
+        for (int t = 0; t < 3; t++) {
+            triangle(x, of(0, 1, 2), SIXTY, SIXTY, SIXTY);
+        }
+        triangle(x, of(0, 1, 3), SIXTY, SIXTY, SIXTY);
+        triangle(x, of(0, 2, 3), SIXTY, SIXTY, SIXTY);
+        int[][] pairs = {{0, 1}, {0, 2}, {1, 2}, {0, 3}, {2, 3}};
+        // by row of triangles, to each of the pairs
+        int[][] rows = {{0}, {0, 1}, {1, 0}, {0, 1, 2}, {3}, {3, 4}, {0, 4}, {0, 4, 3}, {0, 3}, {4}, {3, 0}};
+        int[][] want = {{1, 0, 0, 1, 1}, {0, 0, 0, 2, 2}, {0, 0, 0, 2, 2}, {0, 0, 0, 3, 3}, {1, 1, 1, 0, 1}, {2, 0, 2, 2, 0},
+            {2, 2, 2, 0, 0}, {0, 3, 3, 3, 3}, {2, 2, 2, 2, 2}, {1, 1, 1, 1, 1}, {2, 2, 2, 2, 2}};
+        for (int i = 0; i < rows.length; i++) {
+            int b = rows[i].length > 1 ? rows[i][1] : -1;
+            int c = rows[i].length > 2 ? rows[i][2] : -1;
+            for (int p = 0; p < pairs.length; p++) {
+                String what = java.util.Arrays.toString(rows[i]) + " to " + java.util.Arrays.toString(pairs[p]);
+                Check.told(40, x, what, x.check(0, pairs[p][0], pairs[p][1], rows[i][0], b, c, -1, 0, 0), want[i][p]);
+            }
+        }
+    }
+
+    private static void checkedTriangles() {
+        Check.says(40, "CHECKED: a told CHAIN (up to 6 TRIANGLES, in order) from a BASE to two MARKS, whatever the lengths: 0 if it "
+            + "stands; else 1 and the place (0 ..) of the first TRIANGLE that isn't WELL, has a MISS beyond ALLOWED or a LEAST or "
+            + "MOST with which it carries nothing,");
+        GreatArc x = withBase(9, 10000);
+        for (int t = 0; t < 6; t++) {
+            triangle(x, of(t, t + 1, t + 2), SIXTY, SIXTY, SIXTY);
+        }
+        Check.told(40, x, "six in order", x.check(0, 6, 7, 0, 1, 2, 3, 4, 5), 0);
+        Check.told(40, x, "all but the last", x.check(0, 6, 5, 0, 1, 2, 3, 4, -1), 0);
+        Check.told(40, x, "the last two the other way about", x.check(0, 6, 7, 0, 1, 2, 3, 5, 4), 5);
+        Check.refused(40, x, "the last isn't there", x.check(0, 6, 7, 0, 1, 2, 3, 4, 6), 1);
+        Check.told(40, x, "one behind the -1 isn't there", x.check(0, 1, 2, 0, -1, 6, -2, 99, 5), 0);
+        int[] none = {6, -2, Integer.MIN_VALUE, Integer.MAX_VALUE};
+        for (int n : none) {
+            Check.refused(40, x, "triangle " + n, x.check(0, 1, 2, n, -1, 0, 0, 0, 0), 1);
+            Check.refused(40, x, "base " + n, x.check(n, 1, 2, 0, -1, 0, 0, 0, 0), 1);
+            Check.refused(40, x, "mark", x.check(0, n == 6 ? 9 : n, 2, 0, -1, 0, 0, 0, 0), 1);
+            Check.refused(40, x, "mark", x.check(0, 2, n == 6 ? 9 : n, 0, -1, 0, 0, 0, 0), 1);
+        }
+        // in the way, each behind sound ones: a mean too small, a miss of 101 and -101, a least and a most
+        int[][] told = {{36000}, {SIXTY + 101}, {SIXTY - 101}, {SIXTY - 36000, SIXTY + 36000}};
+        int[] place = {4, 4, 4, 0};
+        for (int i = 0; i < told.length; i++) {
+            GreatArc y = withBase(6, 10000);
+            for (int t = 0; t < 4; t++) {
+                triangle(y, of(t, t + 1, t + 2), SIXTY, SIXTY, SIXTY);
+            }
+            y.strike(11, 0, true);
+            for (int value : told[i]) {
+                Check.read(y, 11, value);
+            }
+            Check.told(40, y, "told so " + i, y.check(0, 4, 5, 0, 1, 2, 3, -1, 0), place[i]);
+            Check.told(40, y, "without it " + i, y.check(0, 4, 3, 0, 1, 2, -1, 3, 0), 0);
+            Check.rule(y, "close 9999999");
+            Check.told(40, y, "any miss is allowed " + i, y.check(0, 4, 5, 0, 1, 2, 3, -1, 0), 0);
+            Check.rule(y, "least 36001");
+            Check.told(40, y, "36,000 isn't well " + i, y.check(0, 4, 5, 0, 1, 2, 3, -1, 0), i == 0 ? 4 : 0);
+            Check.rule(y, "least 0");
+            Check.read(y, 11, 35999);
+            Check.told(40, y, "a least of 35,999 " + i, y.check(0, 4, 5, 0, 1, 2, 3, -1, 0), 4);
+            y.strike(y.count(2) - 1, 0, true);
+            Check.read(y, 11, 6444000);
+            Check.told(40, y, "a most of 6,444,000 " + i, y.check(0, 4, 5, 0, 1, 2, 3, -1, 0), 0);
+            Check.read(y, 11, 6444001);
+            Check.told(40, y, "a most of 6,444,001 " + i, y.check(0, 4, 5, 0, 1, 2, 3, -1, 0), 4);
+        }
     }
 }

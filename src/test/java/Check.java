@@ -4,8 +4,54 @@ import java.util.NoSuchElementException;
 final class Check {
     private static int asked = 0;
     private static int wrong = 0;
+    private static int promise = 0;
+    private static String sentence = null;
+    private static int askedAhead = 0;
 
     private Check() { }
+
+    /** The sentence of the document by which the answers behind it are due, word by word as it stands there. */
+    static void says(int ofPromise, String words) {
+        endSentence();
+        promise = ofPromise;
+        sentence = words;
+        askedAhead = asked;
+        if (Document.find(ofPromise, words) < 0) {
+            wrong++;
+            System.out.println("promise " + ofPromise + ": the document doesn't say '" + words + "'");
+        }
+    }
+
+    private static void endSentence() {
+        if (sentence != null && asked == askedAhead) {
+            wrong++;
+            System.out.println("promise " + promise + ": no answer is due by '" + sentence + "'");
+        }
+    }
+
+    static void due(String what, long got, long want) {
+        due(promise, what, got, want);
+    }
+
+    static void due(String what, boolean got, boolean want) {
+        due(promise, what, got, want);
+    }
+
+    static void refused(GreatArc x, String what, long got, int trouble) {
+        refused(promise, x, what, got, trouble);
+    }
+
+    static void refused(GreatArc x, String what, boolean got, int trouble) {
+        refused(promise, x, what, got, trouble);
+    }
+
+    static void told(GreatArc x, String what, long got, long want) {
+        told(promise, x, what, got, want);
+    }
+
+    static void told(GreatArc x, String what, boolean got) {
+        told(promise, x, what, got);
+    }
 
     static void due(int promise, String what, long got, long want) {
         asked++;
@@ -91,6 +137,7 @@ final class Check {
     }
 
     static void end() {
+        endSentence();
         System.out.println(asked + " answers, " + wrong + " not as due");
         if (wrong != 0) {
             System.exit(1);
