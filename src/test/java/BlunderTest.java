@@ -149,11 +149,27 @@ public final class BlunderTest {
         guilty(x, bad);
         x.suspect(0);
         guilty(x, bad);
+        lastOneBetween();
         // without all means there is no miss to speak of
         GreatArc y = triangle(1);
         y.strike(0, 0, true);
         Check.read(y, 1, 9);
         guilty(y);
+    }
+
+    /** Readings 2 and 4 have to go; 3, between them, is the only one of its angle. */
+    private static void lastOneBetween() {
+        GreatArc x = triangle(0);
+        Check.read(x, 0, SIXTY);
+        Check.read(x, 1, SIXTY);
+        Check.read(x, 0, SIXTY + 600);
+        Check.read(x, 2, SIXTY);
+        Check.read(x, 1, SIXTY + 600);
+        for (int r = 2; r <= 4; r++) {
+            x.suspect(r);
+        }
+        guilty(x, 2, 4);
+        Check.due(45, "no other two", x.rivals(), 1);
     }
 
     private static void roundsToo() {

@@ -87,7 +87,7 @@ public final class EdgesOfNetTest {
         for (int[] o : orders) {
             Check.told(x, "in another order", x.triangle(o[0], o[1], o[2], 0), told++);
         }
-        // an angle of each mark that has one end of the right ones, or none, and those of mark 3
+        // in the place of each mark's angle one that has one right end, or none, or stands at mark 3
         int[][] odd = {{0, 1, 3}, {0, 3, 2}, {0, 3, 1}, {0, 2, 3}, {0, 3, 4}, {3, 0, 1}, {3, 1, 2}, {3, 0, 2}};
         int[][] turns = {{0, 1, 2}, {1, 2, 0}, {2, 0, 1}};
         for (int[] t : turns) {
@@ -97,12 +97,10 @@ public final class EdgesOfNetTest {
                     m[i] = m[i] < 3 ? t[m[i]] : m[i];
                 }
                 int a = x.angle(m[0], m[1], m[2]);
-                for (int place = 0; place < 3; place++) {
-                    int[] row = {t[0], t[1], t[2]};
-                    row[place] = a;
-                    Check.refused(x, "at " + m[0] + " from " + m[1] + " to " + m[2] + " as the " + place,
-                        x.triangle(row[0], row[1], row[2], 0), 5);
-                }
+                String what = "at " + m[0] + " from " + m[1] + " to " + m[2];
+                Check.refused(x, what + " ahead", x.triangle(a, t[1], t[2], 0), 5);
+                Check.refused(x, what + " between", x.triangle(t[2], a, t[1], 0), 5);
+                Check.refused(x, what + " behind", x.triangle(t[1], t[2], a, 0), 5);
             }
         }
         Check.due("TRIANGLES", x.count(5), told);

@@ -555,6 +555,8 @@ public final class EdgesOfRulesTest {
         sound("again if " + eight + "1<2 and " + eight + "1<2");
         sound("again if " + eight + "(" + eight + "1<2)");
         sound("again if (" + eight + "1<2)");
+        fault("again if 1<2 and " + eight + "not 1<2", 3, 49);
+        fault("again if not 1<2 or " + eight + "not 1<2", 3, 52);
         fault("again if (" + eight + "not 1<2)", 3, 42);
         fault("again if " + eight + "(" + eight + "not 1<2)", 3, 74);
         sound("again if " + eight + "(" + eight + "1<2) or " + eight + "1<2");
@@ -577,6 +579,7 @@ public final class EdgesOfRulesTest {
         faultIn(x, "strike if ((1+", 1, 14);
         faultIn(x, "strike if 1<2)", 1, 13);
         faultIn(x, "strike if not not not not not not not not", 1, 41);
+        faultIn(x, "again if " + "not ".repeat(9), 3, 41);
         Check.told(x, "nots behind nots", Check.rule(x, "again if not 1=2"), 4);
         faultIn(x, "least 3*(", 1, 8);
         Check.told(x, "a sum behind one", Check.rule(x, "least 7"), 5);
