@@ -74,6 +74,9 @@ public final class BlunderTest {
 
     private static void fewest() {
         Check.says(45, "How many sets of that size there were; 0 ahead of any.");
+        GreatArc empty = new GreatArc();
+        Check.due(43, "of nothing", empty.blunder(), 0);
+        Check.due(45, "the empty set", empty.rivals(), 1);
         GreatArc x = triangle(2);
         Check.due(45, "ahead of any", x.rivals(), 0);
         guilty(x);

@@ -54,7 +54,7 @@ public final class ChainTest {
         for (int ticks = 0; ticks <= 6480000; ticks += 9973) {
             long u = ticks / 10;
             long w = u * (648000 - u);
-            Check.due(35, "sine of " + ticks, x.sine(ticks), 4000000 * w / (524880000000L - w));
+            Check.due(35, "sine of " + ticks, new GreatArc().sine(ticks), 4000000 * w / (524880000000L - w));
         }
     }
 

@@ -18,6 +18,8 @@ public final class RefusalsTest {
         net();
         chains();
         sky();
+        firstNamed();
+        firstNamedOfFull();
         Check.end();
     }
 
@@ -208,5 +210,106 @@ public final class RefusalsTest {
         refused(2, "a level up", x -> x.level(0, 1, 1000001, 5));
         refused(2, "a level down", x -> x.level(0, 1, -1000001, 5));
         refused(2, "no days", x -> x.pass(0));
+    }
+
+    /** Where several troubles are there, the one that the promise names first is told. */
+    private static void firstNamed() {
+        Check.says(26, "A TRIANGLE: its number. NONE: 1; 2; 5; 3.");
+        denied(1, "no cell so high", x -> x.cell(1024, 2001, 91) ? 1 : 0);
+        denied(1, "no mark so high", x -> x.tower(9, 100) ? 1 : 0);
+        refused(1, "an angle at no mark to itself", x -> x.angle(9, 9, 0));
+        refused(1, "a reading of no angle at no hour", x -> x.read(99, 0x7F800000, 24, 0));
+        refused(1, "a reading by no party at no hour", x -> x.read(0, 0x7F800000, 24, 9));
+        denied(1, "a strike of no reading by no chief", x -> x.strike(99, 1, true) ? 1 : 0);
+        denied(1, "a strike by no party of one not seen", x -> x.strike(10, 9, true) ? 1 : 0);
+        denied(1, "no rule in force to a day ahead", x -> x.force(9, 2, 1) ? 1 : 0);
+        refused(1, "a base of no mark twice", x -> x.base(9, 9, 0));
+        refused(1, "a base of one mark twice by no party", x -> x.base(1, 1, 9));
+        refused(1, "no base's bar so short", x -> x.bar(9, 5, 99, 9999));
+        refused(1, "a triangle of no angle and no excess", x -> x.triangle(99, 0, 0, -1));
+        refused(2, "a triangle of one angle and no excess", x -> x.triangle(0, 0, 0, -1));
+        refused(1, "a round of one that isn't there", x -> x.round(99, -1, 0, 0, 0, 0));
+        refused(1, "a round of two marks and one that isn't there", x -> x.round(0, 1, 99, 0, 0, 0));
+        refused(1, "a star at no mark at no hour", x -> x.star(9, 0, -1, 24));
+        refused(1, "a level from no mark at no hour", x -> x.level(9, 0, 1000001, 24));
+        refused(1, "no cell's mass of nothing", x -> x.mass(1024, 0));
+        refused(2, "a fault by days that aren't", x -> x.rule(3, 2, 1));
+    }
+
+    /** No room is told last. */
+    private static void firstNamedOfFull() {
+        Check.says(3, "A MARK on a CELL: its number. NONE: 1; 5; 3.");
+        GreatArc x = Room.ready();
+        for (int m = 5; m < 30; m++) {
+            x.mark(m);
+        }
+        Check.refused(x, "no room, and taken", x.mark(66), 5);
+        Check.refused(x, "no room, and no cell", x.mark(1024), 1);
+        Check.refused(x, "no room", x.mark(700), 3);
+        for (int a = 7; a < 80; a++) {
+            x.angle(0, 1, 2);
+        }
+        Check.refused(x, "no room, and to itself", x.angle(0, 1, 1), 5);
+        Check.refused(x, "no room, and no mark", x.angle(0, 30, 1), 1);
+        for (int r = 0; r < 20; r++) {
+            Check.read(x, 9, 5);
+        }
+        Check.refused(x, "no room, and no hour", x.read(9, 0, 24, 0), 2);
+        Check.refused(x, "no room, and no party", x.read(9, 0, 24, 9), 1);
+        Check.refused(x, "no room", x.read(9, 0, 0, 0), 3);
+        for (int t = 2; t < 30; t++) {
+            x.triangle(0, 1, 2, 0);
+        }
+        Check.refused(x, "no room, and not so", x.triangle(0, 1, 1, 0), 5);
+        Check.refused(x, "no room, and no excess", x.triangle(0, 1, 1, -1), 2);
+        for (int r = 1; r < 12; r++) {
+            x.round(0, 3, -1, 0, 0, 0);
+        }
+        Check.refused(x, "no room, and not so", x.round(0, -1, 0, 0, 0, 0), 5);
+        for (int b = 3; b < 6; b++) {
+            x.base(b, b + 1, 0);
+        }
+        Check.refused(x, "no room, and by that party", x.base(3, 4, 0), 5);
+        Check.refused(x, "no room, and no mark", x.base(3, 30, 0), 1);
+        for (int n = 0; n < 40; n++) {
+            x.bar(5, 1000, 15, 0);
+        }
+        Check.refused(x, "no room, and too hot", x.bar(5, 1000, 61, 0), 2);
+        fullSky();
+        GreatArc y = Room.ready();
+        for (int r = 4; r < 24; r++) {
+            y.feed(0x636C6F73, 0x65203520, 0x20202020, 0x20202020, 0x20202020);
+            y.rule(7, 0, 9);
+        }
+        y.feed(0x666F6F20, 0x20202020, 0x20202020, 0x20202020, 0x20202020);
+        Check.refused(y, "no room, a fault, and no such days", y.rule(3, 5, 4), 2);
+        Check.refused(y, "no room, and a fault", y.rule(3, 0, 9), 4);
+        for (int i = 1; i < 200; i++) {
+            y.haze(100 + i, 0, 5);
+        }
+        Check.refused(y, "no room, and too far", y.haze(50, 0, 33), 2);
+        Check.refused(y, "no room", y.haze(50, 0, 32), 3);
+    }
+
+    private static void fullSky() {
+        Check.says(54, "An ARC: its number. NONE: 2; 3.");
+        GreatArc x = Room.ready();
+        for (int s = 2; s < 20; s++) {
+            x.star(0, 1, 5, 5);
+        }
+        for (int i = 3; i < 60; i++) {
+            x.level(0, 1, 5, 5);
+        }
+        for (int m = 2; m < 12; m++) {
+            x.mass(5, 5);
+        }
+        for (int a = 2; a < 30; a++) {
+            x.arc(5, 5);
+        }
+        Check.refused(x, "no room, and no such way", x.star(0, 1, -1, 5), 2);
+        Check.refused(x, "no room, and too high", x.level(0, 1, 1000001, 5), 2);
+        Check.refused(x, "no room, and too heavy", x.mass(5, 1000001), 2);
+        Check.refused(x, "no room, and too far north", x.arc(91, 5), 2);
+        Check.refused(x, "no room", x.arc(90, 5), 3);
     }
 }

@@ -142,8 +142,10 @@ final class Room {
             told.add((long) x.pull(m, false));
             told.add((long) x.pull(m, true));
             for (int n = 0; n < 5; n++) {
-                told.add((long) x.see(m, n, 2, 3));
-                told.add((long) x.north(m, n));
+                if (n != m) {
+                    told.add((long) x.see(m, n, 2, 3));
+                    told.add((long) x.north(m, n));
+                }
                 if (n > m) {
                     told.add((long) x.see(m, n, 0, 3));
                     told.add((long) x.steps(m, n));
