@@ -16,6 +16,7 @@ public final class ChainTest {
         sixAtMost();
         lesserSide();
         lesserOfTied();
+        shrinksLater();
         withoutBars();
         roundAbout();
         manyWell();
@@ -393,6 +394,37 @@ public final class ChainTest {
         Check.due(36, "there are some ways", ways >= 2, true);
         Check.due(38, "least over the lesser side", x.side(false), first[0]);
         Check.due(38, "most over the lesser side", x.side(true), first[1]);
+    }
+
+    /** One way is met first and ends narrow; the other is wider than that on its way, and narrower at its end. */
+    private static void shrinksLater() {
+        Check.says(36, "the CHAIN whose span at the end (most less least) is least,");
+        // the side carried to lies opposite 6 degrees, that carried from opposite 87 or 168
+        int[][] last = {{216000, 3132000, 3132000}, {216000, 216000, 6048000}};
+        int[] apart = {200, 50};
+        int[] marks = {0, 2, 3};
+        for (int i = 0; i < 6; i++) {
+            GreatArc x = withBase(4, 100000);
+            for (int b = 1; b < 40; b++) {
+                x.bar(0, 100000, 15, 0);
+            }
+            triangle(x, of(0, 1, 2), SIXTY, SIXTY, SIXTY);
+            triangle(x, of(1, 2, 3), SIXTY, SIXTY, SIXTY);
+            Check.read(x, 1, SIXTY + apart[i / 3]);
+            long sixty = sine(SIXTY);
+            long high = (4000040 * sine(SIXTY + apart[i / 3]) + sixty - 1) / sixty;
+            Check.told(36, x, "the one way", x.chain(0, 2, 3), 80);
+            links(x, 0, 1);
+            Check.told(36, x, "on the other way, wider than that", x.chain(0, 0, 2), high - 3999960);
+            int[] m = last[i / 3];
+            int turn = i % 3;
+            triangle(x, of(marks[turn], marks[(turn + 1) % 3], marks[(turn + 2) % 3]), m[turn], m[(turn + 1) % 3], m[(turn + 2) % 3]);
+            long least = 3999960 * sine(m[0]) / sine(m[2]);
+            long most = (high * sine(m[0]) + sine(m[2]) - 1) / sine(m[2]);
+            Check.told(36, x, "the other way", x.chain(0, 2, 3), most - least);
+            Check.due(36, "is narrower at its end alone", high - 3999960 > 80 && most - least < 80, true);
+            links(x, 0, 2);
+        }
     }
 
     /** A base without bars spans 0 to 0, and so does all that is carried from it. */

@@ -1,25 +1,11 @@
-import java.lang.reflect.InvocationTargetException;
-import java.lang.reflect.Method;
-import java.util.ArrayList;
 import java.util.Arrays;
-import java.util.HashMap;
-import java.util.List;
-import java.util.Map;
-import java.util.Random;
 
 /** Lays GreatArc's answers beside Plain's over many runs of chance calls, each kind of run with its own bent. */
-public final class FuzzTest {
-    private static final int CALLS = 512;
+public final class FuzzTest extends Beside {
     private static final int KINDS = 11;
     private static final String[] NAMES = {"off", "hour", "party", "count", "spread", "kept", "at"};
-    private static final Map<String, Method> ARC = methods(GreatArc.class);
-    private static final Map<String, Method> PLAIN = methods(Plain.class);
 
-    private final Random chance;
-    private final GreatArc arc = new GreatArc();
-    private final Plain plain = new Plain();
-    private final List<String> log = new ArrayList<>();
-    private boolean wrong = false;
+    private final int kind;
     private int marks = 0;
     private int angles = 0;
     private int readings = 0;
@@ -28,55 +14,9 @@ public final class FuzzTest {
     private int scatter = 50;
     private boolean even = false;
 
-    private FuzzTest(long seed) {
-        chance = new Random(seed);
-    }
-
-    private static Map<String, Method> methods(Class<?> type) {
-        Map<String, Method> found = new HashMap<>();
-        for (Method m : type.getDeclaredMethods()) {
-            if (java.lang.reflect.Modifier.isPublic(m.getModifiers())) {
-                found.put(m.getName(), m);
-            }
-        }
-        return found;
-    }
-
-    private static Object ask(Method method, Object on, Object... args) {
-        try {
-            return method.invoke(on, args);
-        } catch (InvocationTargetException e) {
-            return "throws " + e.getCause().getClass().getName();
-        } catch (IllegalAccessException e) {
-            throw new IllegalStateException(e);
-        }
-    }
-
-    private Object call(String name, Object... args) {
-        if (log.size() >= CALLS || wrong) {
-            return -1;
-        }
-        Object got = ask(ARC.get(name), arc, args);
-        Object due = ask(PLAIN.get(name), plain, args);
-        log.add(name + Arrays.toString(args) + " = " + got);
-        if (!got.equals(due)) {
-            wrong = true;
-            log.add("  due is " + due);
-        }
-        return got;
-    }
-
-    private int number(String name, Object... args) {
-        Object got = call(name, args);
-        return got instanceof Integer ? (Integer) got : -1;
-    }
-
-    private int upTo(int n) {
-        return chance.nextInt(n + 1);
-    }
-
-    private boolean oneIn(int n) {
-        return chance.nextInt(n) == 0;
+    private FuzzTest(long seed, int kind) {
+        super(seed);
+        this.kind = kind;
     }
 
     /** A number below n, seldom one that isn't. */
@@ -96,7 +36,7 @@ public final class FuzzTest {
     }
 
     private int seedling(int n) {
-        return log.size() % (n + 1);
+        return calls() % (n + 1);
     }
 
     private void addMark() {
@@ -303,17 +243,6 @@ public final class FuzzTest {
         call("where");
     }
 
-    private void feed(String text) {
-        for (int i = 0; i < text.length(); i += 20) {
-            int[] five = new int[5];
-            for (int j = 0; j < 20; j++) {
-                int c = i + j < text.length() ? text.charAt(i + j) : ' ';
-                five[j / 4] = five[j / 4] << 8 | c;
-            }
-            call("feed", five[0], five[1], five[2], five[3], five[4]);
-        }
-    }
-
     private void landCall() {
         switch (chance.nextInt(8)) {
             case 0: addMark(); break;
@@ -471,7 +400,7 @@ public final class FuzzTest {
         }
     }
 
-    private void setOut(int kind) {
+    private void setOut() {
         if (kind == 10) {
             call("party", true);
             call("party", false);
@@ -487,7 +416,7 @@ public final class FuzzTest {
         }
         scatter = new int[] {0, 3, 50, 400}[chance.nextInt(4)];
         if (kind == 2) {
-            while (marks < 4 && log.size() < 40) {
+            while (marks < 4 && calls() < 40) {
                 addMark();
             }
             addWeb(1 + upTo(1));
@@ -532,7 +461,7 @@ public final class FuzzTest {
         }
     }
 
-    private void step(int kind) {
+    private void step() {
         call("trouble");
         int which = oneIn(kind == 7 || kind == 10 ? 1 : 6) ? chance.nextInt(8) : kind;
         switch (which) {
@@ -557,13 +486,13 @@ public final class FuzzTest {
         }
     }
 
-    private boolean run(int kind) {
-        setOut(kind);
+    @Override
+    void run() {
+        setOut();
         int steps = 20 + chance.nextInt(400);
-        for (int i = 0; i < steps && log.size() < CALLS && !wrong; i++) {
-            step(kind);
+        for (int i = 0; i < steps && !isOver(); i++) {
+            step();
         }
-        return !wrong;
     }
 
     /** Fills every bound, so that what is asked behind it walks over full rows. */
@@ -618,28 +547,7 @@ public final class FuzzTest {
         }
     }
 
-    /** With a kind of run as the third argument, runs of that kind alone. */
     public static void main(String[] args) {
-        long first = args.length > 0 ? Long.parseLong(args[0]) : 1;
-        int runs = args.length > 1 ? Integer.parseInt(args[1]) : 660;
-        int only = args.length > 2 ? Integer.parseInt(args[2]) : -1;
-        int bad = 0;
-        long calls = 0;
-        for (long seed = first; seed < first + runs && bad < 3; seed++) {
-            FuzzTest test = new FuzzTest(seed);
-            boolean good = test.run(only >= 0 ? only : (int) (seed % KINDS));
-            calls += test.log.size();
-            if (!good) {
-                bad++;
-                System.out.println("run of seed " + seed + ":");
-                for (String line : test.log) {
-                    System.out.println("  " + line);
-                }
-            }
-        }
-        System.out.println(runs + " runs, " + calls + " calls: " + (bad == 0 ? "all as due" : bad + " runs are not as due"));
-        if (bad != 0) {
-            System.exit(1);
-        }
+        lay(args, 660, (seed, kind) -> new FuzzTest(seed, kind >= 0 ? kind : (int) (seed % KINDS)));
     }
 }

@@ -665,6 +665,16 @@ public final class RulesTest {
         Check.due("its sum", x.told(1), 5);
         faultIn(x, "strike if 1+1<2*", 1, 16);
         faultIn(x, "least 5 < 6", 1, 8);
+        // a not where an earlier text left one waiting, behind a bracket and behind an and
+        GreatArc y = Check.room(3);
+        y.angle(2, 0, 1);
+        Check.read(y, 0, 100);
+        faultIn(y, "again if ((not", 1, 14);
+        Check.told(y, "behind a bracket and an and", Check.rule(y, "again if (1=1 and not 1=1)"), 0);
+        Check.due("it doesn't hold", y.angleOf(0, 9), 0);
+        faultIn(y, "again if (not", 1, 13);
+        Check.told(y, "behind an or", Check.rule(y, "again if 1=2 or not 1=2"), 1);
+        Check.due("it holds", y.angleOf(0, 9), 1);
     }
 
     private static void ruling() {
@@ -707,6 +717,15 @@ public final class RulesTest {
         Check.feed(y, "close 6");
         Check.told(y, "for the first day", y.rule(7, 0, 0), 2);
         Check.due("that of the first day", y.told(1), 6);
+        GreatArc z = new GreatArc();
+        Check.feed(z, "close atone");
+        Check.told(z, "2 letters of a run", z.rule(8, 0, 9), 0);
+        Check.feed(z, "close 5678");
+        Check.told(z, "2 digits of a run", z.rule(8, 0, 9), 1);
+        Check.due("56 of 5678", z.told(1), 56);
+        Check.feed(z, "leasts 5");
+        Check.refused(z, "5 letters of 6", z.rule(5, 0, 9), 4);
+        Check.due("the end", z.where(), 5);
     }
 
     private static void faultAndWhere() {
